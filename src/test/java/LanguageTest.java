@@ -1,0 +1,185 @@
+import java.io.IOException;
+import java.lang.management.ManagementFactory;
+import java.lang.reflect.Constructor;
+import java.lang.reflect.Field;
+import java.lang.reflect.Method;
+import java.lang.reflect.Modifier;
+import java.nio.file.Files;
+import java.nio.file.Path;
+import java.util.List;
+import java.util.Set;
+import java.util.TreeSet;
+import java.util.regex.Matcher;
+import java.util.regex.Pattern;
+
+/** The face of the class, what LANGUAGE.md rules out of its source, and the objects that its calls make. */
+public final class LanguageTest {
+    private static final String FACE = "create(int,int,int)int setFinal(int,int,int)int setWeight(int,int,int)int "
+        + "append(int,int)int setInitial(int)int setTransition(int,int,int)int property(int,int)int "
+        + "print(int,int,int)int printed(int)int isSatisfied(int,int,int,int)int model(int,int,int,int)int "
+        + "push(int)int clearWord()int acceptingStates(int,int)int accepts(int)int rank(int,int,int)int "
+        + "strategy(int,int,int)int reverseStep(int,int,int)int reverseStates(int)int reverseClasses(int)int "
+        + "existentialStates(int)int existentialSets(int,int)int relevantStates(int)int findCheapest(int)int "
+        + "findDifference(int,int)int foundLetter(int)int foundCost()int isContained(int,int)int "
+        + "countWords(int,int)long dualize(int,int)int combine(int,int,int,int)int save()int restore()int";
+    private static final String[] FORBIDDEN = {"\\bthrow\\b", "\\bthrows\\b", "\\btry\\b", "\\bcatch\\b",
+        "\\bsynchronized\\b", "\\bassert\\b", "->", "::", "Exact\\b", "static \\{", "\\bthread\\b", "\\bnative\\b",
+        "\\bSystem\\.(?!arraycopy)", "\\bRandom\\b", "\\bThread\\b", "\\bpackage\\b", "\\bhashCode\\b", "\\btoString\\b",
+        "\\bwhile \\(true\\)", "\\bfor \\(;;\\)"};
+
+    private LanguageTest() {
+    }
+
+    public static void main(String[] args) throws IOException {
+        lookAtFace();
+        lookAtNames();
+        lookAtSource();
+        countObjects();
+        Due.end();
+    }
+
+    private static void lookAtFace() {
+        Class<?> type = AlternatingAutomata.class;
+        Due.is("public and final", 1, Modifier.isPublic(type.getModifiers()) && Modifier.isFinal(type.getModifiers()) ? 1 : 0);
+        Set<String> due = new TreeSet<>(List.of(FACE.split(" ")));
+        Set<String> got = new TreeSet<>();
+        for (Method method : type.getDeclaredMethods()) {
+            if (Modifier.isPrivate(method.getModifiers())) {
+                continue;
+            }
+            StringBuilder name = new StringBuilder(method.getName()).append('(');
+            for (Class<?> parameter : method.getParameterTypes()) {
+                name.append(name.charAt(name.length() - 1) == '(' ? "" : ",").append(parameter.getName());
+            }
+            got.add(name.append(')').append(method.getReturnType().getName()).toString());
+            Due.is(method + " is public and not static", Modifier.PUBLIC, method.getModifiers());
+        }
+        Due.is("methods", due.toString(), got.toString());
+        Constructor<?>[] constructors = type.getDeclaredConstructors();
+        Due.is("constructors", 1, constructors.length);
+        Due.is("constructor without parameters", 0, constructors[0].getParameterCount());
+        Set<String> constants = new TreeSet<>();
+        for (Field field : type.getDeclaredFields()) {
+            if (!Modifier.isPrivate(field.getModifiers())) {
+                constants.add(field.getName());
+            }
+        }
+        Due.is("constants", "[BAD_ARGUMENT, FULL, MISMATCH, NONE, NOTHING]", constants.toString());
+    }
+
+    private static void lookAtNames() {
+        Set<String> names = new TreeSet<>();
+        for (Method method : AlternatingAutomata.class.getMethods()) {
+            names.add(method.getName());
+        }
+        lookAtClass(AlternatingAutomata.class, names, true);
+        Class<?>[] inside = AlternatingAutomata.class.getDeclaredClasses();
+        Due.is("at most twelve classes", 1, inside.length < 12 ? 1 : 0);
+        for (Class<?> type : inside) {
+            Due.is(type + " is static", 1, Modifier.isStatic(type.getModifiers()) ? 1 : 0);
+            lookAtClass(type, names, false);
+        }
+    }
+
+    private static void lookAtClass(Class<?> type, Set<String> names, boolean isFace) {
+        for (Method method : type.getDeclaredMethods()) {
+            boolean isPublic = Modifier.isPublic(method.getModifiers());
+            Due.is(method + " bears no public name", 0, names.contains(method.getName()) && !isPublic ? 1 : 0);
+            Due.is(method + " is not public inside", 0, isPublic && !isFace ? 1 : 0);
+            Due.is(method + " takes at most seven", 1, method.getParameterCount() <= 7 ? 1 : 0);
+        }
+        int fields = 0;
+        for (Field field : type.getDeclaredFields()) {
+            boolean isStatic = Modifier.isStatic(field.getModifiers());
+            Due.is(field + " is final", 0, isStatic && !Modifier.isFinal(field.getModifiers()) ? 1 : 0);
+            fields += isStatic ? 0 : 1;
+        }
+        Due.is(type + " has at most twenty fields", 1, fields <= 20 ? 1 : 0);
+    }
+
+    private static void lookAtSource() throws IOException {
+        String source = Files.readString(Path.of("src/main/java/AlternatingAutomata.java"));
+        String code = source.replaceAll("(?s)/\\*.*?\\*/", "").replaceAll("//[^\n]*", "");
+        for (String pattern : FORBIDDEN) {
+            Matcher matcher = Pattern.compile(pattern).matcher(code);
+            Due.is("source has " + pattern, 0, matcher.find() ? 1 : 0);
+        }
+        for (String line : code.split("\n")) {
+            if (line.startsWith("import")) {
+                Due.is("import", "import java.util.Arrays;", line);
+            }
+        }
+        lookAtLengths(source.split("\n"));
+    }
+
+    /** By indentation: a method opens with a line that ends in ") {" and closes at the same depth. */
+    private static void lookAtLengths(String[] lines) {
+        Pattern head = Pattern.compile("^( {4}| {8})[a-zA-Z].*\\) \\{$");
+        for (int i = 0; i < lines.length; i++) {
+            Matcher matcher = head.matcher(lines[i]);
+            if (matcher.find() && !lines[i].trim().matches("(if|for|while|switch).*")) {
+                int end = i;
+                while (end < lines.length && !lines[end].equals(matcher.group(1) + "}")) {
+                    end++;
+                }
+                Due.is(lines[i].trim() + " is short", 1, end - i < 60 ? 1 : 0);
+            }
+        }
+    }
+
+    private static void countObjects() {
+        com.sun.management.ThreadMXBean threads =
+            (com.sun.management.ThreadMXBean) ManagementFactory.getThreadMXBean();
+        callAll(new AlternatingAutomata(), 10);
+        long id = Thread.currentThread().getId();
+        long atFirst = threads.getThreadAllocatedBytes(id);
+        AlternatingAutomata x = new AlternatingAutomata();
+        long made = threads.getThreadAllocatedBytes(id);
+        callAll(x, 100);
+        long called = threads.getThreadAllocatedBytes(id);
+        System.out.println((made - atFirst) + " bytes for an object, " + (called - made) + " for its calls");
+        Due.is("an object is small", 1, made - atFirst < 100000 ? 1 : 0);
+        Due.is("calls make no objects", 1, called - made < 5000 ? 1 : 0);
+    }
+
+    private static void callAll(AlternatingAutomata x, int times) {
+        for (int i = 0; i < times; i++) {
+            x.create(0, 3, 2);
+            x.append('0', 1);
+            x.append('|', 1);
+            x.append('1', 1);
+            x.setTransition(0, i % 3, i % 2);
+            x.append('1', 1);
+            x.setInitial(0);
+            x.setFinal(0, i % 3, 1);
+            x.setWeight(0, 1, 2);
+            x.property(0, i % 6);
+            x.print(0, i % 3, i % 2);
+            x.printed(i % 4);
+            x.isSatisfied(0, -1, 0, i % 8);
+            x.model(0, 0, 0, i % 3 - 1);
+            x.push(i % 2);
+            x.acceptingStates(0, 0);
+            x.accepts(0);
+            x.rank(0, 0, 0);
+            x.strategy(0, 0, 0);
+            x.reverseStep(0, 0, 3);
+            x.reverseStates(0);
+            x.reverseClasses(0);
+            x.existentialStates(0);
+            x.existentialSets(0, i % 2);
+            x.relevantStates(0);
+            x.findCheapest(0);
+            x.dualize(0, 1);
+            x.findDifference(0, 1);
+            x.foundLetter(0);
+            x.foundCost();
+            x.isContained(0, 1);
+            x.countWords(0, 20);
+            x.combine(0, 1, 2, i % 2);
+            x.save();
+            x.restore();
+            x.clearWord();
+        }
+    }
+}
