@@ -105,7 +105,8 @@ public final class OracleTest {
             return kind == 0 ? "t" : kind == 1 ? "f" : String.valueOf(below(states));
         }
         int left = below(size);
-        String text = randomFormula(states, left) + (below(2) == 0 ? "&" : "|") + randomFormula(states, size - 1 - left);
+        String operator = below(2) == 0 ? "&" : "|";
+        String text = randomFormula(states, left) + operator + randomFormula(states, size - 1 - left);
         return below(2) == 0 ? "(" + text + ")" : text;
     }
 

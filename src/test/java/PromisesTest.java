@@ -44,6 +44,7 @@ public final class PromisesTest {
         promise32Combine();
         promise32CombineLimits();
         promise33And34Snapshot();
+        sameAnswersAgainAndAgain();
         Due.end();
     }
 
@@ -1005,5 +1006,36 @@ public final class PromisesTest {
         x.create(1, 2, 1);
         Due.is("34 the newer one", 11, x.restore());
         Due.is("34 the newer one", 6, x.property(1, 0));
+    }
+
+    /** What a call leaves behind in the rows that calls share must not pile up within 512 calls. */
+    private static void sameAnswersAgainAndAgain() {
+        String deep = "0|(1|(2|(3|(4|(5|(0|(1|(2|3))))))))";
+        AlternatingAutomata x = new AlternatingAutomata();
+        x.create(0, 6, 1);
+        initial(x, 0, deep);
+        for (int i = 0; i < 400; i++) {
+            Due.is("9 again and again", deep.length(), x.print(0, -1, 0));
+        }
+        Due.is("9 after many prints", deep, shownBefore(x));
+        AlternatingAutomata y = new AlternatingAutomata();
+        y.create(0, 6, 1);
+        for (int i = 0; i < 200; i++) {
+            y.append('(', 3);
+            Due.is("6 again and again", -103, y.setInitial(0));
+        }
+        Due.is("6 after many errors", 19, initial(y, 0, deep));
+        AlternatingAutomata z = evenZerosThenOne();
+        z.dualize(0, 1);
+        word(z, "001");
+        for (int i = 0; i < 60; i++) {
+            Due.is("17 again and again", 3, z.rank(0, 0, 0));
+            Due.is("26 again and again", 0, z.findDifference(0, 1));
+            Due.is("29 again and again", 1, z.isContained(0, 0));
+            Due.is("25 again and again", 1, z.findCheapest(0));
+            Due.is("30 again and again", 4, z.countWords(0, 4));
+            Due.is("21 again and again", 4, z.reverseClasses(0));
+            Due.is("33 again and again", 9, z.save());
+        }
     }
 }
