@@ -48,65 +48,17 @@ public final class PromisesTest {
         Due.end();
     }
 
-    private static void type(AlternatingAutomata x, String text) {
-        for (int i = 0; i < text.length(); i++) {
-            x.append(text.charAt(i), 1);
-        }
-    }
-
-    private static int initial(AlternatingAutomata x, int slot, String text) {
-        type(x, text);
-        return x.setInitial(slot);
-    }
-
-    private static int move(AlternatingAutomata x, int slot, int state, int letter, String text) {
-        type(x, text);
-        return x.setTransition(slot, state, letter);
-    }
-
-    private static String shown(AlternatingAutomata x, int slot, int state, int letter) {
-        int length = x.print(slot, state, letter);
-        return length < 0 ? "error " + length : shownBefore(x);
-    }
-
-    private static String shownBefore(AlternatingAutomata x) {
-        StringBuilder text = new StringBuilder();
-        for (int i = 0; x.printed(i) != NONE; i++) {
-            text.append((char) x.printed(i));
-        }
-        return text.toString();
-    }
-
-    private static void word(AlternatingAutomata x, String letters) {
-        x.clearWord();
-        for (int i = 0; i < letters.length(); i++) {
-            x.push(letters.charAt(i) - '0');
-        }
-    }
-
-    private static String foundWord(AlternatingAutomata x) {
-        StringBuilder text = new StringBuilder();
-        for (int i = 0; x.foundLetter(i) != NONE; i++) {
-            text.append(x.foundLetter(i));
-        }
-        return text.toString();
-    }
-
-    private static String repeated(String text, int count) {
-        return text.repeat(count);
-    }
-
     private static void promise1NewObject() {
-        AlternatingAutomata x = new AlternatingAutomata();
+        Bench x = new Bench();
         for (int slot = 0; slot < 3; slot++) {
             Due.is("1 states", 1, x.property(slot, 0));
             Due.is("1 letters", 1, x.property(slot, 1));
             Due.is("1 finals", 0, x.property(slot, 2));
             Due.is("1 weight", 1, x.property(slot, 3));
-            Due.is("1 initial", "f", shown(x, slot, -1, 0));
-            Due.is("1 transition", "f", shown(x, slot, 0, 0));
+            Due.is("1 initial", "f", x.shown(slot, -1, 0));
+            Due.is("1 transition", "f", x.shown(slot, 0, 0));
         }
-        AlternatingAutomata y = new AlternatingAutomata();
+        Bench y = new Bench();
         Due.is("1 text is empty", -100, y.setInitial(0));
         Due.is("1 printed text is empty", NONE, y.printed(0));
         Due.is("1 word is empty", 0, y.clearWord());
@@ -116,16 +68,16 @@ public final class PromisesTest {
     }
 
     private static void promise2Create() {
-        AlternatingAutomata x = new AlternatingAutomata();
+        Bench x = new Bench();
         Due.is("2 first", 1, x.create(0, 6, 3));
-        initial(x, 0, "5|0");
-        move(x, 0, 5, 2, "t");
+        x.initial(0, "5|0");
+        x.move(0, 5, 2, "t");
         x.setFinal(0, 5, 1);
         x.setWeight(0, 2, 9);
         Due.is("2 second", 6, x.create(0, 6, 3));
         Due.is("2 finals", 0, x.property(0, 2));
-        Due.is("2 initial", "f", shown(x, 0, -1, 0));
-        Due.is("2 transition", "f", shown(x, 0, 5, 2));
+        Due.is("2 initial", "f", x.shown(0, -1, 0));
+        Due.is("2 transition", "f", x.shown(0, 5, 2));
         Due.is("2 weight", 1, x.property(0, 5));
         Due.is("2 third", 6, x.create(0, 2, 1));
         Due.is("2 states", 2, x.property(0, 0));
@@ -140,7 +92,7 @@ public final class PromisesTest {
     }
 
     private static void promise3SetFinal() {
-        AlternatingAutomata x = new AlternatingAutomata();
+        Bench x = new Bench();
         x.create(1, 6, 1);
         Due.is("3 state 5", 32, x.setFinal(1, 5, 1));
         Due.is("3 state 0", 33, x.setFinal(1, 0, 1));
@@ -156,7 +108,7 @@ public final class PromisesTest {
     }
 
     private static void promise4SetWeight() {
-        AlternatingAutomata x = new AlternatingAutomata();
+        Bench x = new Bench();
         x.create(2, 1, 3);
         Due.is("4 first", 1, x.setWeight(2, 2, 9));
         Due.is("4 second", 9, x.setWeight(2, 2, 1));
@@ -171,7 +123,7 @@ public final class PromisesTest {
     }
 
     private static void promise5Append() {
-        AlternatingAutomata x = new AlternatingAutomata();
+        Bench x = new Bench();
         Due.is("5 first", 1, x.append(0, 1));
         Due.is("5 more", 3, x.append(127, 2));
         int[][] wrong = {{-1, 1}, {128, 1}, {48, 0}, {48, -1}, {48, 61}, {MIN, 1}, {MAX, 1}, {48, MIN}, {48, MAX}};
@@ -188,73 +140,73 @@ public final class PromisesTest {
     }
 
     private static void promise6SetInitial() {
-        AlternatingAutomata x = new AlternatingAutomata();
+        Bench x = new Bench();
         x.create(0, 6, 1);
-        Due.is("6 t", 1, initial(x, 0, "t"));
-        Due.is("6 f", 1, initial(x, 0, "f"));
-        Due.is("6 state", 1, initial(x, 0, "5"));
-        Due.is("6 parentheses are no nodes", 1, initial(x, 0, "(((5)))"));
-        Due.is("6 deep", 1, initial(x, 0, repeated("(", 29) + "3" + repeated(")", 29)));
-        Due.is("6 deep formula", "3", shown(x, 0, -1, 0));
-        Due.is("6 mixed", 7, initial(x, 0, "0&1|2&3"));
-        Due.is("6 no such slot", BAD, initial(x, 3, "0"));
+        Due.is("6 t", 1, x.initial(0, "t"));
+        Due.is("6 f", 1, x.initial(0, "f"));
+        Due.is("6 state", 1, x.initial(0, "5"));
+        Due.is("6 parentheses are no nodes", 1, x.initial(0, "(((5)))"));
+        Due.is("6 deep", 1, x.initial(0, "(".repeat(29) + "3" + ")".repeat(29)));
+        Due.is("6 deep formula", "3", x.shown(0, -1, 0));
+        Due.is("6 mixed", 7, x.initial(0, "0&1|2&3"));
+        Due.is("6 no such slot", BAD, x.initial(3, "0"));
         Due.is("6 text is empty", 1, x.append('1', 1));
         Due.is("6 no such slot", BAD, x.setInitial(-1));
         Due.is("6 no such slot", BAD, x.setInitial(MAX));
-        Due.is("6 formula stays", "0&1|2&3", shown(x, 0, -1, 0));
-        Due.is("6 39 nodes", 39, initial(x, 0, repeated("0|", 19) + "1"));
-        Due.is("6 41 nodes", FULL, initial(x, 0, repeated("2&", 20) + "1"));
+        Due.is("6 formula stays", "0&1|2&3", x.shown(0, -1, 0));
+        Due.is("6 39 nodes", 39, x.initial(0, "0|".repeat(19) + "1"));
+        Due.is("6 41 nodes", FULL, x.initial(0, "2&".repeat(20) + "1"));
         Due.is("6 text is empty after full", -100, x.setInitial(0));
-        Due.is("6 59 nodes", FULL, initial(x, 0, repeated("2&", 29) + "1"));
-        Due.is("6 formula stays after full", repeated("0|", 19) + "1", shown(x, 0, -1, 0));
-        Due.is("6 error before full", -160, initial(x, 0, repeated("2&", 30)));
-        Due.is("6 slot before error", BAD, initial(x, 3, "&"));
+        Due.is("6 59 nodes", FULL, x.initial(0, "2&".repeat(29) + "1"));
+        Due.is("6 formula stays after full", "0|".repeat(19) + "1", x.shown(0, -1, 0));
+        Due.is("6 error before full", -160, x.initial(0, "2&".repeat(30)));
+        Due.is("6 slot before error", BAD, x.initial(3, "&"));
     }
 
     private static void promise6SyntaxErrors() {
-        AlternatingAutomata x = new AlternatingAutomata();
+        Bench x = new Bench();
         x.create(0, 3, 1);
         String[] texts = {"", "3", "9", "&", "|", ")", "(", "0&", "0|", "0&3", "00", "0(", "0t", "tf", "()", "(0",
             "(0&", "(0))", "(0)0", "0&&1", "0|&1", " 0", "0 ", "T", "(0|1", "((0)", "0|(1&2)|x", "a", "0&(", "1&(2|)"};
         int[] offsets = {0, 0, 0, 0, 0, 0, 1, 2, 2, 2, 1, 1, 1, 1, 1, 2,
             3, 3, 3, 2, 2, 0, 1, 0, 4, 4, 8, 0, 3, 5};
-        initial(x, 0, "0&1");
+        x.initial(0, "0&1");
         for (int i = 0; i < texts.length; i++) {
-            Due.is("6 error in " + texts[i], -100 - offsets[i], initial(x, 0, texts[i]));
-            Due.is("6 formula stays", "0&1", shown(x, 0, -1, 0));
+            Due.is("6 error in " + texts[i], -100 - offsets[i], x.initial(0, texts[i]));
+            Due.is("6 formula stays", "0&1", x.shown(0, -1, 0));
         }
         x.append(0, 1);
         Due.is("6 character 0", -100, x.setInitial(0));
-        type(x, "0");
+        x.type("0");
         x.append(127, 1);
         Due.is("6 character 127", -101, x.setInitial(0));
     }
 
     private static void promise7SetTransition() {
-        AlternatingAutomata x = new AlternatingAutomata();
+        Bench x = new Bench();
         x.create(1, 6, 3);
-        Due.is("7 nodes", 3, move(x, 1, 5, 2, "5|4"));
-        Due.is("7 nodes", 5, move(x, 1, 0, 0, "(5|4)&t"));
-        Due.is("7 formula", "5|4", shown(x, 1, 5, 2));
-        Due.is("7 formula", "(5|4)&t", shown(x, 1, 0, 0));
-        Due.is("7 other formula", "f", shown(x, 1, 5, 1));
-        Due.is("7 other formula", "f", shown(x, 1, 4, 2));
+        Due.is("7 nodes", 3, x.move(1, 5, 2, "5|4"));
+        Due.is("7 nodes", 5, x.move(1, 0, 0, "(5|4)&t"));
+        Due.is("7 formula", "5|4", x.shown(1, 5, 2));
+        Due.is("7 formula", "(5|4)&t", x.shown(1, 0, 0));
+        Due.is("7 other formula", "f", x.shown(1, 5, 1));
+        Due.is("7 other formula", "f", x.shown(1, 4, 2));
         int[][] wrong = {{-1, 0, 0}, {3, 0, 0}, {1, -1, 0}, {1, 6, 0}, {1, 0, -1}, {1, 0, 3}, {0, 1, 0}, {0, 0, 1},
             {MIN, 0, 0}, {1, MIN, 0}, {1, MAX, 0}, {1, 0, MIN}, {1, 0, MAX}};
         for (int[] w : wrong) {
-            Due.is("7 wrong", BAD, move(x, w[0], w[1], w[2], "0"));
+            Due.is("7 wrong", BAD, x.move(w[0], w[1], w[2], "0"));
             Due.is("7 text is empty", -100, x.setTransition(1, 1, 1));
         }
-        Due.is("7 error", -101, move(x, 1, 5, 2, "0)"));
-        Due.is("7 state of the slot's automaton", -100, move(x, 0, 0, 0, "1"));
-        Due.is("7 full", FULL, move(x, 1, 5, 2, repeated("0&", 20) + "1"));
+        Due.is("7 error", -101, x.move(1, 5, 2, "0)"));
+        Due.is("7 state of the slot's automaton", -100, x.move(0, 0, 0, "1"));
+        Due.is("7 full", FULL, x.move(1, 5, 2, "0&".repeat(20) + "1"));
         Due.is("7 text is empty after full", -100, x.setTransition(1, 5, 2));
-        Due.is("7 formula stays", "5|4", shown(x, 1, 5, 2));
-        Due.is("7 initial formula stays", "f", shown(x, 1, -1, 0));
+        Due.is("7 formula stays", "5|4", x.shown(1, 5, 2));
+        Due.is("7 initial formula stays", "f", x.shown(1, -1, 0));
     }
 
     private static void promise8Property() {
-        AlternatingAutomata x = new AlternatingAutomata();
+        Bench x = new Bench();
         x.create(0, 4, 2);
         x.setFinal(0, 3, 1);
         x.setWeight(0, 0, 3);
@@ -273,7 +225,7 @@ public final class PromisesTest {
     }
 
     private static void promise9And10Print() {
-        AlternatingAutomata x = new AlternatingAutomata();
+        Bench x = new Bench();
         x.create(0, 6, 3);
         String[] texts = {"0", "t", "f", "(0)", "0|1|2", "(0|1)|2", "0|(1|2)", "0&1&2", "(0&1)&2", "0&(1&2)", "0&1|2",
             "(0&1)|2", "0|1&2", "0|(1&2)", "(0|1)&2", "0&(1|2)", "(0|1)&(2|3)", "((0|1)&2)|(3|(4&5))",
@@ -282,37 +234,37 @@ public final class PromisesTest {
             "0&1|2", "0|1&2", "0|1&2", "(0|1)&2", "0&(1|2)", "(0|1)&(2|3)", "(0|1)&2|(3|4&5)",
             "0|(1|(2|(3|4)))", "0&(1|2&(3|4))", "((0|1)&2|3)&4"};
         for (int i = 0; i < texts.length; i++) {
-            move(x, 0, 1, 1, texts[i]);
+            x.move(0, 1, 1, texts[i]);
             Due.is("9 length", due[i].length(), x.print(0, 1, 1));
-            Due.is("9 " + texts[i], due[i], shownBefore(x));
+            Due.is("9 " + texts[i], due[i], x.shownBefore());
         }
         Due.is("9 letter is ignored", 1, x.print(0, -1, MIN));
         Due.is("9 letter is ignored", 1, x.print(0, -1, 77));
-        move(x, 0, 1, 1, "3&4");
+        x.move(0, 1, 1, "3&4");
         x.print(0, 1, 1);
         int[][] wrong = {{-1, 0, 0}, {3, 0, 0}, {0, -2, 0}, {0, 6, 0}, {0, 0, -1}, {0, 0, 3}, {1, 1, 0}, {1, 0, 1},
             {MAX, -1, 0}, {0, MIN, 0}, {0, MAX, 0}, {0, 0, MIN}, {0, 0, MAX}};
         for (int[] w : wrong) {
             Due.is("9 wrong", BAD, x.print(w[0], w[1], w[2]));
         }
-        Due.is("9 printed text stays", "3&4", shownBefore(x));
+        Due.is("9 printed text stays", "3&4", x.shownBefore());
         Due.is("10 first", '3', x.printed(0));
         Due.is("10 last", '4', x.printed(2));
         Due.is("10 none", NONE, x.printed(3));
         Due.is("10 none", NONE, x.printed(-1));
         Due.is("10 none", NONE, x.printed(MIN));
         Due.is("10 none", NONE, x.printed(MAX));
-        move(x, 0, 1, 1, "t");
+        x.move(0, 1, 1, "t");
         Due.is("10 print is what shows a formula", '3', x.printed(0));
         x.print(0, 1, 1);
-        Due.is("10 replaced", "t", shownBefore(x));
+        Due.is("10 replaced", "t", x.shownBefore());
     }
 
     private static void promise11IsSatisfied() {
-        AlternatingAutomata x = new AlternatingAutomata();
+        Bench x = new Bench();
         x.create(0, 3, 2);
-        initial(x, 0, "0&1|2");
-        move(x, 0, 2, 1, "0&(1|2)");
+        x.initial(0, "0&1|2");
+        x.move(0, 2, 1, "0&(1|2)");
         int[] dueInitial = {0, 0, 0, 1, 1, 1, 1, 1};
         int[] dueMove = {0, 0, 0, 1, 0, 1, 0, 1};
         for (int set = 0; set < 8; set++) {
@@ -320,7 +272,7 @@ public final class PromisesTest {
             Due.is("11 transition " + set, dueMove[set], x.isSatisfied(0, 2, 1, set));
             Due.is("11 false " + set, 0, x.isSatisfied(0, 0, 0, set));
         }
-        move(x, 0, 0, 0, "t");
+        x.move(0, 0, 0, "t");
         Due.is("11 true", 1, x.isSatisfied(0, 0, 0, 0));
         int[][] wrong = {{-1, 0, 0, 0}, {3, 0, 0, 0}, {0, -2, 0, 0}, {0, 3, 0, 0}, {0, 0, -1, 0}, {0, 0, 2, 0},
             {0, 0, 0, -1}, {0, 0, 0, 8}, {0, -1, 0, 8}, {1, 0, 0, 2}, {0, 0, 0, MIN}, {0, 0, 0, MAX}, {MIN, 0, 0, 0}};
@@ -328,16 +280,16 @@ public final class PromisesTest {
             Due.is("11 wrong", BAD, x.isSatisfied(w[0], w[1], w[2], w[3]));
         }
         x.create(0, 6, 1);
-        initial(x, 0, "0&1&2&3&4&5");
+        x.initial(0, "0&1&2&3&4&5");
         Due.is("11 all states", 1, x.isSatisfied(0, -1, 0, 63));
         Due.is("11 one is missing", 0, x.isSatisfied(0, -1, 0, 31));
         Due.is("11 no set", BAD, x.isSatisfied(0, -1, 0, 64));
     }
 
     private static void models(String text, int... due) {
-        AlternatingAutomata x = new AlternatingAutomata();
+        Bench x = new Bench();
         x.create(0, 6, 1);
-        initial(x, 0, text);
+        x.initial(0, text);
         Due.is("12 number of models of " + text, due.length, x.model(0, -1, 0, -1));
         for (int i = 0; i < due.length; i++) {
             Due.is("12 model " + i + " of " + text, due[i], x.model(0, -1, 0, i));
@@ -359,9 +311,9 @@ public final class PromisesTest {
         models("(0|1)&(2|3)&(4|5)", 21, 22, 25, 26, 37, 38, 41, 42);
         models("0&1&2&3&4&5", 63);
         models("0&1&2|4&5|1&3", 10, 48, 7);
-        AlternatingAutomata x = new AlternatingAutomata();
+        Bench x = new Bench();
         x.create(0, 2, 2);
-        move(x, 0, 1, 1, "0&1");
+        x.move(0, 1, 1, "0&1");
         Due.is("12 transition", 3, x.model(0, 1, 1, 0));
         int[][] wrong = {{-1, 0, 0, 0}, {3, 0, 0, 0}, {0, -2, 0, 0}, {0, 2, 0, 0}, {0, 0, -1, 0}, {0, 0, 2, 0},
             {0, 0, 0, -2}, {0, -1, 0, -2}, {0, 0, 0, MIN}, {MAX, 0, 0, 0}, {0, MIN, 0, 0}};
@@ -371,7 +323,7 @@ public final class PromisesTest {
     }
 
     private static void promise13And14Word() {
-        AlternatingAutomata x = new AlternatingAutomata();
+        Bench x = new Bench();
         for (int i = 1; i <= 12; i++) {
             Due.is("13 push", i, x.push(i % 3));
         }
@@ -387,30 +339,30 @@ public final class PromisesTest {
     }
 
     /** Words over 0 and 1 with an even number of letters 0 and with a 1 as their last letter. */
-    private static AlternatingAutomata evenZerosThenOne() {
-        AlternatingAutomata x = new AlternatingAutomata();
+    private static Bench evenZerosThenOne() {
+        Bench x = new Bench();
         x.create(0, 4, 2);
-        initial(x, 0, "0&2");
-        move(x, 0, 0, 0, "1");
-        move(x, 0, 0, 1, "0");
-        move(x, 0, 1, 0, "0");
-        move(x, 0, 1, 1, "1");
-        move(x, 0, 2, 0, "2");
-        move(x, 0, 2, 1, "2|3");
+        x.initial(0, "0&2");
+        x.move(0, 0, 0, "1");
+        x.move(0, 0, 1, "0");
+        x.move(0, 1, 0, "0");
+        x.move(0, 1, 1, "1");
+        x.move(0, 2, 0, "2");
+        x.move(0, 2, 1, "2|3");
         x.setFinal(0, 0, 1);
         x.setFinal(0, 3, 1);
         return x;
     }
 
     private static void promise15And16Acceptance() {
-        AlternatingAutomata x = evenZerosThenOne();
+        Bench x = evenZerosThenOne();
         String[] words = {"", "1", "0", "01", "001", "0101", "010", "1111", "000001", "0000001", "101010101011"};
         int[] due = {0, 1, 0, 0, 1, 1, 0, 1, 0, 1, 0};
         for (int i = 0; i < words.length; i++) {
-            word(x, words[i]);
+            x.word(words[i]);
             Due.is("16 " + words[i], due[i], x.accepts(0));
         }
-        word(x, "001");
+        x.word("001");
         Due.is("15 at 0", 5, x.acceptingStates(0, 0));
         Due.is("15 at 1", 6, x.acceptingStates(0, 1));
         Due.is("15 at 2", 5, x.acceptingStates(0, 2));
@@ -423,40 +375,40 @@ public final class PromisesTest {
         Due.is("15 wrong", BAD, x.acceptingStates(-1, 0));
         Due.is("16 wrong", BAD, x.accepts(3));
         Due.is("16 wrong", BAD, x.accepts(-1));
-        word(x, "2001");
+        x.word("2001");
         Due.is("15 mismatch", MISMATCH, x.acceptingStates(0, 1));
         Due.is("15 mismatch at the end", MISMATCH, x.acceptingStates(0, 4));
         Due.is("15 wrong before mismatch", BAD, x.acceptingStates(0, 5));
         Due.is("16 mismatch", MISMATCH, x.accepts(0));
         Due.is("16 wrong before mismatch", BAD, x.accepts(3));
         x.create(1, 1, 3);
-        initial(x, 1, "t");
+        x.initial(1, "t");
         Due.is("16 true accepts all", 1, x.accepts(1));
-        initial(x, 1, "f");
+        x.initial(1, "f");
         Due.is("16 false accepts none", 0, x.accepts(1));
     }
 
     private static int rankOf(String text, int finals, String letters) {
-        AlternatingAutomata x = gameOf(text, finals, letters);
+        Bench x = gameOf(text, finals, letters);
         return x.rank(0, 0, 0);
     }
 
     /** State 0 moves by the text; states 1 to 3 stay by every letter, and 4 and 5 go to true and false. */
-    private static AlternatingAutomata gameOf(String text, int finals, String letters) {
-        AlternatingAutomata x = new AlternatingAutomata();
+    private static Bench gameOf(String text, int finals, String letters) {
+        Bench x = new Bench();
         x.create(0, 6, 2);
         for (int letter = 0; letter < 2; letter++) {
-            move(x, 0, 0, letter, text);
+            x.move(0, 0, letter, text);
             for (int state = 1; state < 4; state++) {
-                move(x, 0, state, letter, String.valueOf(state));
+                x.move(0, state, letter, String.valueOf(state));
             }
-            move(x, 0, 4, letter, "t");
-            move(x, 0, 5, letter, "f");
+            x.move(0, 4, letter, "t");
+            x.move(0, 5, letter, "f");
         }
         for (int state = 0; state < 6; state++) {
             x.setFinal(0, state, finals >> state & 1);
         }
-        word(x, letters);
+        x.word(letters);
         return x;
     }
 
@@ -476,7 +428,7 @@ public final class PromisesTest {
         Due.is("17 the opponent's quick win", 10002, rankOf("1&f", 0, "0000"));
         Due.is("17 the opponent wins one part", 10005, rankOf("t&1", 0, "0000"));
         Due.is("17 the opponent takes the won part", 10005, rankOf("1&(t|t|t)", 0, "0000"));
-        AlternatingAutomata x = gameOf("4&1|5", 2, "0101");
+        Bench x = gameOf("4&1|5", 2, "0101");
         Due.is("17 at 0", 6, x.rank(0, 0, 0));
         Due.is("17 at 3", 10003, x.rank(0, 3, 0));
         Due.is("17 at the end", 10000, x.rank(0, 4, 0));
@@ -512,7 +464,7 @@ public final class PromisesTest {
         Due.is("18 parts of a conjunction", 10, strategyOf("(1|2)&(3|1&2)", 14, "0"));
         Due.is("18 least rank", 8, strategyOf("1&2|3", 14, "00"));
         Due.is("18 the same rank", 6, strategyOf("1&2|(3|3)", 14, "00"));
-        AlternatingAutomata x = gameOf("1|2", 6, "01");
+        Bench x = gameOf("1|2", 6, "01");
         Due.is("18 at 1", 2, x.strategy(0, 1, 0));
         int[][] wrong = {{-1, 0, 0}, {3, 0, 0}, {0, -1, 0}, {0, 2, 0}, {0, 0, -1}, {0, 0, 6},
             {0, MIN, 0}, {0, MAX, 0}, {0, 0, MIN}, {0, 0, MAX}};
@@ -527,12 +479,12 @@ public final class PromisesTest {
     }
 
     private static void promise19ReverseStep() {
-        AlternatingAutomata x = evenZerosThenOne();
+        Bench x = evenZerosThenOne();
         Due.is("19 letter 1", 5, x.reverseStep(0, 1, 9));
         Due.is("19 letter 0", 2, x.reverseStep(0, 0, 9));
         Due.is("19 empty set", 0, x.reverseStep(0, 0, 0));
         Due.is("19 all states", 7, x.reverseStep(0, 0, 15));
-        move(x, 0, 3, 0, "t");
+        x.move(0, 3, 0, "t");
         Due.is("19 true", 8, x.reverseStep(0, 0, 0));
         int[][] wrong = {{-1, 0, 0}, {3, 0, 0}, {0, -1, 0}, {0, 2, 0}, {0, 0, -1}, {0, 0, 16}, {1, 0, 2},
             {0, MIN, 0}, {0, MAX, 0}, {0, 0, MIN}, {0, 0, MAX}};
@@ -541,18 +493,18 @@ public final class PromisesTest {
         }
     }
 
-    private static AlternatingAutomata rotation(int states) {
-        AlternatingAutomata x = new AlternatingAutomata();
+    private static Bench rotation(int states) {
+        Bench x = new Bench();
         x.create(0, states, 1);
         for (int state = 0; state < states; state++) {
-            move(x, 0, state, 0, String.valueOf((state + 1) % states));
+            x.move(0, state, 0, String.valueOf((state + 1) % states));
         }
         x.setFinal(0, 0, 1);
         return x;
     }
 
     private static void promise20ReverseStates() {
-        AlternatingAutomata x = rotation(6);
+        Bench x = rotation(6);
         Due.is("20 rotation", 6, x.reverseStates(0));
         x.setFinal(0, 3, 1);
         Due.is("20 rotation by half", 3, x.reverseStates(0));
@@ -563,26 +515,26 @@ public final class PromisesTest {
         // A rotation, a swap and a join make every set but the empty one out of a single state.
         x.create(2, 6, 3);
         for (int state = 0; state < 6; state++) {
-            move(x, 2, state, 0, String.valueOf((state + 1) % 6));
-            move(x, 2, state, 1, String.valueOf(state == 0 ? 1 : state == 1 ? 0 : state));
-            move(x, 2, state, 2, state == 0 ? "0|1" : String.valueOf(state));
+            x.move(2, state, 0, String.valueOf((state + 1) % 6));
+            x.move(2, state, 1, String.valueOf(state == 0 ? 1 : state == 1 ? 0 : state));
+            x.move(2, state, 2, state == 0 ? "0|1" : String.valueOf(state));
         }
         x.setFinal(2, 0, 1);
         Due.is("20 all sets but the empty one", 63, x.reverseStates(2));
-        move(x, 2, 0, 2, "0&1");
+        x.move(2, 0, 2, "0&1");
         Due.is("20 a meet instead of the join", 7, x.reverseStates(2));
     }
 
     private static void promise21ReverseClasses() {
-        AlternatingAutomata x = rotation(6);
+        Bench x = rotation(6);
         Due.is("21 none is accepting", 1, x.reverseClasses(0));
-        initial(x, 0, "t");
+        x.initial(0, "t");
         Due.is("21 all are accepting", 1, x.reverseClasses(0));
-        initial(x, 0, "0");
+        x.initial(0, "0");
         Due.is("21 every sixth", 6, x.reverseClasses(0));
-        initial(x, 0, "0|3");
+        x.initial(0, "0|3");
         Due.is("21 every third", 3, x.reverseClasses(0));
-        initial(x, 0, "0|2|4");
+        x.initial(0, "0|2|4");
         Due.is("21 every second", 2, x.reverseClasses(0));
         Due.is("21 new", 1, x.reverseClasses(1));
         Due.is("21 even zeros then one", 4, evenZerosThenOne().reverseClasses(0));
@@ -591,38 +543,38 @@ public final class PromisesTest {
     }
 
     private static void promise22ExistentialStates() {
-        AlternatingAutomata x = rotation(6);
+        Bench x = rotation(6);
         Due.is("22 starts nowhere", 0, x.existentialStates(0));
-        initial(x, 0, "t");
+        x.initial(0, "t");
         Due.is("22 empty set", 1, x.existentialStates(0));
-        initial(x, 0, "0");
+        x.initial(0, "0");
         Due.is("22 rotation", 6, x.existentialStates(0));
-        initial(x, 0, "0&3");
+        x.initial(0, "0&3");
         Due.is("22 rotation by half", 3, x.existentialStates(0));
-        initial(x, 0, "0&3|0");
+        x.initial(0, "0&3|0");
         Due.is("22 only minimal models", 6, x.existentialStates(0));
-        move(x, 0, 0, 0, "f");
-        initial(x, 0, "0");
+        x.move(0, 0, 0, "f");
+        x.initial(0, "0");
         Due.is("22 goes nowhere", 1, x.existentialStates(0));
-        move(x, 0, 0, 0, "t|1");
+        x.move(0, 0, 0, "t|1");
         Due.is("22 goes to the empty set alone", 2, x.existentialStates(0));
         // From {0} to {1} or {2}, from {1} to {0, 2}, and no further.
         x.create(1, 3, 1);
-        initial(x, 1, "0");
-        move(x, 1, 0, 0, "1|2");
-        move(x, 1, 1, 0, "0&2");
+        x.initial(1, "0");
+        x.move(1, 0, 0, "1|2");
+        x.move(1, 1, 0, "0&2");
         Due.is("22 branches", 4, x.existentialStates(1));
         Due.is("22 wrong", BAD, x.existentialStates(-1));
         Due.is("22 wrong", BAD, x.existentialStates(3));
     }
 
     private static void promise23ExistentialSets() {
-        AlternatingAutomata x = new AlternatingAutomata();
+        Bench x = new Bench();
         x.create(0, 3, 2);
-        initial(x, 0, "0|1&2");
-        move(x, 0, 0, 0, "0|1");
-        move(x, 0, 1, 0, "2|0");
-        move(x, 0, 2, 0, "t");
+        x.initial(0, "0|1&2");
+        x.move(0, 0, 0, "0|1");
+        x.move(0, 1, 0, "2|0");
+        x.move(0, 2, 0, "t");
         x.setFinal(0, 0, 1);
         Due.is("23 at first", 2, x.existentialSets(0, 0));
         Due.is("23 accepting at first", 1, x.existentialSets(0, 1));
@@ -646,27 +598,27 @@ public final class PromisesTest {
     }
 
     private static void promise24RelevantStates() {
-        AlternatingAutomata x = rotation(6);
+        Bench x = rotation(6);
         Due.is("24 none", 0, x.relevantStates(0));
-        initial(x, 0, "5");
+        x.initial(0, "5");
         Due.is("24 all by and by", 63, x.relevantStates(0));
-        move(x, 0, 2, 0, "t");
-        initial(x, 0, "0");
+        x.move(0, 2, 0, "t");
+        x.initial(0, "0");
         Due.is("24 until a formula has no states", 7, x.relevantStates(0));
-        initial(x, 0, "f&2|t");
+        x.initial(0, "f&2|t");
         Due.is("24 in the formula, though of no weight", 4, x.relevantStates(0));
         x.create(1, 4, 3);
-        initial(x, 1, "1");
-        move(x, 1, 1, 2, "3&f");
-        move(x, 1, 0, 0, "2");
+        x.initial(1, "1");
+        x.move(1, 1, 2, "3&f");
+        x.move(1, 0, 0, "2");
         Due.is("24 all letters", 10, x.relevantStates(1));
         Due.is("24 wrong", BAD, x.relevantStates(-1));
         Due.is("24 wrong", BAD, x.relevantStates(3));
     }
 
     /** Four states without transitions, the last one final, and the given weights. */
-    private static AlternatingAutomata chooser(int weight0, int weight1, int weight2) {
-        AlternatingAutomata x = new AlternatingAutomata();
+    private static Bench chooser(int weight0, int weight1, int weight2) {
+        Bench x = new Bench();
         x.create(0, 4, 3);
         x.setWeight(0, 0, weight0);
         x.setWeight(0, 1, weight1);
@@ -676,9 +628,9 @@ public final class PromisesTest {
     }
 
     private static void promise25FindCheapest() {
-        AlternatingAutomata x = evenZerosThenOne();
+        Bench x = evenZerosThenOne();
         Due.is("25 shortest", 1, x.findCheapest(0));
-        Due.is("25 word", "1", foundWord(x));
+        Due.is("25 word", "1", x.foundWord());
         Due.is("25 cost", 1, x.foundCost());
         x.setWeight(0, 1, 9);
         Due.is("25 weight", 1, x.findCheapest(0));
@@ -686,58 +638,58 @@ public final class PromisesTest {
         x.setWeight(0, 1, 1);
         Due.is("25 the cost stays", 9, x.foundCost());
         Due.is("25 empty language", NONE, x.findCheapest(1));
-        Due.is("25 found word stays", "1", foundWord(x));
+        Due.is("25 found word stays", "1", x.foundWord());
         Due.is("25 cost stays", 9, x.foundCost());
         Due.is("25 wrong", BAD, x.findCheapest(-1));
         Due.is("25 wrong", BAD, x.findCheapest(3));
-        Due.is("25 found word stays", "1", foundWord(x));
-        initial(x, 1, "t");
+        Due.is("25 found word stays", "1", x.foundWord());
+        x.initial(1, "t");
         Due.is("25 empty word", 0, x.findCheapest(1));
-        Due.is("25 empty word", "", foundWord(x));
+        Due.is("25 empty word", "", x.foundWord());
         Due.is("25 empty word", 0, x.foundCost());
-        word(x, "0");
+        x.word("0");
         Due.is("25 the word is another", 1, x.clearWord());
     }
 
     private static void promise25Ties() {
         // Either one letter 2 or two letters 0 or 1, in the end.
-        AlternatingAutomata x = chooser(2, 2, 5);
-        initial(x, 0, "0");
-        move(x, 0, 0, 2, "3");
-        move(x, 0, 0, 1, "1");
-        move(x, 0, 0, 0, "2");
-        move(x, 0, 1, 0, "3");
-        move(x, 0, 2, 1, "3");
+        Bench x = chooser(2, 2, 5);
+        x.initial(0, "0");
+        x.move(0, 0, 2, "3");
+        x.move(0, 0, 1, "1");
+        x.move(0, 0, 0, "2");
+        x.move(0, 1, 0, "3");
+        x.move(0, 2, 1, "3");
         Due.is("25 cheaper though longer", 2, x.findCheapest(0));
-        Due.is("25 01 before 10", "01", foundWord(x));
+        Due.is("25 01 before 10", "01", x.foundWord());
         Due.is("25 cost", 4, x.foundCost());
         x.setWeight(0, 2, 4);
         Due.is("25 shorter of the same cost", 1, x.findCheapest(0));
-        Due.is("25 2 before 01", "2", foundWord(x));
+        Due.is("25 2 before 01", "2", x.foundWord());
         x.setWeight(0, 2, 9);
-        move(x, 0, 2, 1, "f");
+        x.move(0, 2, 1, "f");
         Due.is("25 only 10", 2, x.findCheapest(0));
-        Due.is("25 only 10", "10", foundWord(x));
-        move(x, 0, 2, 2, "3");
+        Due.is("25 only 10", "10", x.foundWord());
+        x.move(0, 2, 2, "3");
         x.setWeight(0, 0, 9);
         x.setWeight(0, 1, 9);
         Due.is("25 letter 2", 1, x.findCheapest(0));
-        move(x, 0, 0, 2, "f");
+        x.move(0, 0, 2, "f");
         Due.is("25 02 before 10", 2, x.findCheapest(0));
-        Due.is("25 02 before 10", "02", foundWord(x));
+        Due.is("25 02 before 10", "02", x.foundWord());
         Due.is("25 cost", 18, x.foundCost());
         x.setWeight(0, 2, 8);
         x.findCheapest(0);
-        Due.is("25 02 is cheaper", "02", foundWord(x));
+        Due.is("25 02 is cheaper", "02", x.foundWord());
         x.setWeight(0, 1, 7);
         x.findCheapest(0);
-        Due.is("25 10 is cheaper", "10", foundWord(x));
+        Due.is("25 10 is cheaper", "10", x.foundWord());
         // Two rotations at once: a number that is 2 modulo 3 and 1 modulo 2.
         x.create(1, 5, 1);
-        initial(x, 1, "0&3");
+        x.initial(1, "0&3");
         String[] next = {"1", "2", "0", "4", "3"};
         for (int state = 0; state < 5; state++) {
-            move(x, 1, state, 0, next[state]);
+            x.move(1, state, 0, next[state]);
         }
         x.setFinal(1, 2, 1);
         x.setFinal(1, 4, 1);
@@ -747,69 +699,69 @@ public final class PromisesTest {
     }
 
     private static void promise26FindDifference() {
-        AlternatingAutomata x = new AlternatingAutomata();
+        Bench x = new Bench();
         x.create(0, 3, 2);
-        initial(x, 0, "0");
-        move(x, 0, 0, 0, "1");
-        move(x, 0, 0, 1, "1");
-        move(x, 0, 1, 0, "2");
-        move(x, 0, 1, 1, "2");
+        x.initial(0, "0");
+        x.move(0, 0, 0, "1");
+        x.move(0, 0, 1, "1");
+        x.move(0, 1, 0, "2");
+        x.move(0, 1, 1, "2");
         x.setFinal(0, 2, 1);
         x.setWeight(0, 0, 3);
         x.setWeight(0, 1, 4);
         x.create(1, 3, 2);
-        initial(x, 1, "0");
-        move(x, 1, 0, 0, "1");
-        move(x, 1, 0, 1, "1");
-        move(x, 1, 1, 0, "2");
+        x.initial(1, "0");
+        x.move(1, 0, 0, "1");
+        x.move(1, 0, 1, "1");
+        x.move(1, 1, 0, "2");
         x.setFinal(1, 2, 1);
         x.setWeight(1, 0, 8);
         x.setWeight(1, 1, 9);
         Due.is("26 length", 2, x.findDifference(0, 1));
-        Due.is("26 01 before 11", "01", foundWord(x));
+        Due.is("26 01 before 11", "01", x.foundWord());
         Due.is("26 cost in the first", 7, x.foundCost());
         Due.is("26 the other way", 2, x.findDifference(1, 0));
-        Due.is("26 the same word", "01", foundWord(x));
+        Due.is("26 the same word", "01", x.foundWord());
         Due.is("26 cost in the first", 17, x.foundCost());
         Due.is("26 the same slot", NONE, x.findDifference(0, 0));
-        Due.is("26 found word stays", "01", foundWord(x));
-        move(x, 1, 1, 1, "2");
+        Due.is("26 found word stays", "01", x.foundWord());
+        x.move(1, 1, 1, "2");
         Due.is("26 the same language", NONE, x.findDifference(0, 1));
         Due.is("26 cost stays", 17, x.foundCost());
         x.setFinal(1, 0, 1);
         Due.is("26 empty word", 0, x.findDifference(0, 1));
-        Due.is("26 empty word", "", foundWord(x));
+        Due.is("26 empty word", "", x.foundWord());
         Due.is("26 empty word", 0, x.foundCost());
         x.setFinal(1, 0, 0);
-        move(x, 1, 0, 0, "f");
+        x.move(1, 0, 0, "f");
         x.setFinal(0, 2, 1);
         x.findDifference(0, 1);
-        Due.is("26 00 is the first of 00 and 01", "00", foundWord(x));
+        Due.is("26 00 is the first of 00 and 01", "00", x.foundWord());
         Due.is("26 mismatch", MISMATCH, x.findDifference(0, 2));
         Due.is("26 mismatch", MISMATCH, x.findDifference(2, 0));
         int[][] wrong = {{-1, 0}, {3, 0}, {0, -1}, {0, 3}, {3, 2}, {MIN, 0}, {0, MAX}};
         for (int[] w : wrong) {
             Due.is("26 wrong", BAD, x.findDifference(w[0], w[1]));
         }
-        Due.is("26 found word stays", "00", foundWord(x));
+        Due.is("26 found word stays", "00", x.foundWord());
         // Multiples of 3 against multiples of 5: the lengths 3, 5, 6, ... tell them apart; 0 does not.
         x.create(0, 3, 1);
         x.create(1, 5, 1);
         for (int slot = 0; slot < 2; slot++) {
             int states = slot == 0 ? 3 : 5;
-            initial(x, slot, "0");
+            x.initial(slot, "0");
             x.setFinal(slot, 0, 1);
             for (int state = 0; state < states; state++) {
-                move(x, slot, state, 0, String.valueOf((state + 1) % states));
+                x.move(slot, state, 0, String.valueOf((state + 1) % states));
             }
         }
         Due.is("26 three", 3, x.findDifference(0, 1));
     }
 
     private static void promise27And28Found() {
-        AlternatingAutomata x = evenZerosThenOne();
-        move(x, 0, 2, 1, "2");
-        move(x, 0, 2, 0, "3|2");
+        Bench x = evenZerosThenOne();
+        x.move(0, 2, 1, "2");
+        x.move(0, 2, 0, "3|2");
         x.setWeight(0, 0, 4);
         Due.is("27 length", 2, x.findCheapest(0));
         Due.is("27 letter", 0, x.foundLetter(0));
@@ -826,11 +778,11 @@ public final class PromisesTest {
     }
 
     private static void promise29IsContained() {
-        AlternatingAutomata x = evenZerosThenOne();
+        Bench x = evenZerosThenOne();
         x.create(1, 2, 2);
-        initial(x, 1, "0");
-        move(x, 1, 0, 0, "0");
-        move(x, 1, 0, 1, "0|1");
+        x.initial(1, "0");
+        x.move(1, 0, 0, "0");
+        x.move(1, 0, 1, "0|1");
         x.setFinal(1, 1, 1);
         Due.is("29 contained", 1, x.isContained(0, 1));
         Due.is("29 not contained", 0, x.isContained(1, 0));
@@ -852,7 +804,7 @@ public final class PromisesTest {
     }
 
     private static void promise30CountWords() {
-        AlternatingAutomata x = evenZerosThenOne();
+        Bench x = evenZerosThenOne();
         long[] due = {0, 1, 1, 2, 4, 8};
         for (int length = 0; length < due.length; length++) {
             Due.is("30 length " + length, due[length], x.countWords(0, length));
@@ -860,7 +812,7 @@ public final class PromisesTest {
         Due.is("30 length 20", 1L << 18, x.countWords(0, 20));
         x.create(1, 1, 3);
         Due.is("30 none", 0, x.countWords(1, 20));
-        initial(x, 1, "t");
+        x.initial(1, "t");
         Due.is("30 all words", 3486784401L, x.countWords(1, 20));
         Due.is("30 the empty word", 1, x.countWords(1, 0));
         Due.is("30 wrong", -1, x.countWords(1, -1));
@@ -872,8 +824,8 @@ public final class PromisesTest {
     }
 
     private static void promise31Dualize() {
-        AlternatingAutomata x = evenZerosThenOne();
-        initial(x, 0, "(0|f)&(2&t)|3");
+        Bench x = evenZerosThenOne();
+        x.initial(0, "(0|f)&(2&t)|3");
         x.setWeight(0, 1, 6);
         x.create(2, 6, 3);
         Due.is("31 finals", 6, x.dualize(0, 2));
@@ -882,16 +834,16 @@ public final class PromisesTest {
         Due.is("31 finals", 6, x.property(2, 2));
         Due.is("31 weight", 6, x.property(2, 4));
         Due.is("31 no third letter", NONE, x.property(2, 5));
-        Due.is("31 initial", "(0&t|(2|f))&3", shown(x, 2, -1, 0));
-        Due.is("31 transition", "2&3", shown(x, 2, 2, 1));
-        Due.is("31 false", "t", shown(x, 2, 3, 0));
-        Due.is("31 the source stays", "(0|f)&(2&t)|3", shown(x, 0, -1, 0));
+        Due.is("31 initial", "(0&t|(2|f))&3", x.shown(2, -1, 0));
+        Due.is("31 transition", "2&3", x.shown(2, 2, 1));
+        Due.is("31 false", "t", x.shown(2, 3, 0));
+        Due.is("31 the source stays", "(0|f)&(2&t)|3", x.shown(0, -1, 0));
         for (int length = 0; length < 10; length++) {
             Due.is("31 complement", 1L << length, x.countWords(0, length) + x.countWords(2, length));
         }
         Due.is("31 in place", 9, x.dualize(2, 2));
         Due.is("31 twice", NONE, x.findDifference(0, 2));
-        Due.is("31 twice", "2|3", shown(x, 2, 2, 1));
+        Due.is("31 twice", "2|3", x.shown(2, 2, 1));
         Due.is("31 models of the dual", 8, x.model(2, -1, 0, 0));
         int[][] wrong = {{-1, 0}, {3, 0}, {0, -1}, {0, 3}, {MIN, 0}, {0, MAX}};
         for (int[] w : wrong) {
@@ -901,27 +853,27 @@ public final class PromisesTest {
     }
 
     private static void promise32Combine() {
-        AlternatingAutomata x = new AlternatingAutomata();
+        Bench x = new Bench();
         x.create(0, 2, 2);
-        initial(x, 0, "0|1");
-        move(x, 0, 0, 0, "0&1");
-        move(x, 0, 1, 1, "t");
+        x.initial(0, "0|1");
+        x.move(0, 0, 0, "0&1");
+        x.move(0, 1, 1, "t");
         x.setFinal(0, 1, 1);
         x.setWeight(0, 0, 5);
         x.create(1, 3, 2);
-        initial(x, 1, "2|0");
-        move(x, 1, 0, 1, "2&(0|1)");
-        move(x, 1, 2, 0, "1|f");
+        x.initial(1, "2|0");
+        x.move(1, 0, 1, "2&(0|1)");
+        x.move(1, 2, 0, "1|f");
         x.setFinal(1, 0, 1);
         x.setFinal(1, 2, 1);
         x.setWeight(1, 0, 8);
         Due.is("32 intersection", 5, x.combine(0, 1, 2, 1));
-        Due.is("32 initial", "(0|1)&(4|2)", shown(x, 2, -1, 0));
-        Due.is("32 first states", "0&1", shown(x, 2, 0, 0));
-        Due.is("32 first states", "t", shown(x, 2, 1, 1));
-        Due.is("32 second states", "4&(2|3)", shown(x, 2, 2, 1));
-        Due.is("32 second states", "3|f", shown(x, 2, 4, 0));
-        Due.is("32 second states", "f", shown(x, 2, 4, 1));
+        Due.is("32 initial", "(0|1)&(4|2)", x.shown(2, -1, 0));
+        Due.is("32 first states", "0&1", x.shown(2, 0, 0));
+        Due.is("32 first states", "t", x.shown(2, 1, 1));
+        Due.is("32 second states", "4&(2|3)", x.shown(2, 2, 1));
+        Due.is("32 second states", "3|f", x.shown(2, 4, 0));
+        Due.is("32 second states", "f", x.shown(2, 4, 1));
         Due.is("32 finals", 2 | 4 | 16, x.property(2, 2));
         Due.is("32 weights", 5, x.property(2, 3));
         Due.is("32 letters", 2, x.property(2, 1));
@@ -930,33 +882,33 @@ public final class PromisesTest {
         Due.is("32 contained", 1, x.isContained(2, 0));
         Due.is("32 contained", 1, x.isContained(2, 1));
         Due.is("32 union", 5, x.combine(0, 1, 2, 0));
-        Due.is("32 initial", "0|1|(4|2)", shown(x, 2, -1, 0));
+        Due.is("32 initial", "0|1|(4|2)", x.shown(2, -1, 0));
         Due.is("32 contains", 1, x.isContained(0, 2));
         Due.is("32 contains", 1, x.isContained(1, 2));
         Due.is("32 the other way round", 5, x.combine(1, 0, 2, 0));
-        Due.is("32 initial", "2|0|(3|4)", shown(x, 2, -1, 0));
+        Due.is("32 initial", "2|0|(3|4)", x.shown(2, -1, 0));
         Due.is("32 weights of the first", 8, x.property(2, 3));
         Due.is("32 into the second", 5, x.combine(0, 1, 1, 1));
-        Due.is("32 initial", "(0|1)&(4|2)", shown(x, 1, -1, 0));
-        Due.is("32 second states", "4&(2|3)", shown(x, 1, 2, 1));
+        Due.is("32 initial", "(0|1)&(4|2)", x.shown(1, -1, 0));
+        Due.is("32 second states", "4&(2|3)", x.shown(1, 2, 1));
         Due.is("32 with itself into itself", 4, x.combine(0, 0, 0, 0));
-        Due.is("32 initial", "0|1|(2|3)", shown(x, 0, -1, 0));
-        Due.is("32 transition", "2&3", shown(x, 0, 2, 0));
+        Due.is("32 initial", "0|1|(2|3)", x.shown(0, -1, 0));
+        Due.is("32 transition", "2&3", x.shown(0, 2, 0));
         Due.is("32 finals", 2 | 8, x.property(0, 2));
     }
 
     private static void promise32CombineLimits() {
-        AlternatingAutomata x = new AlternatingAutomata();
+        Bench x = new Bench();
         x.create(0, 3, 2);
         x.create(1, 4, 2);
         Due.is("32 seven states", FULL, x.combine(0, 1, 2, 0));
         Due.is("32 six states", 6, x.combine(0, 0, 2, 0));
         x.create(1, 1, 2);
-        initial(x, 0, repeated("0&", 9) + "1");
-        initial(x, 1, repeated("0&", 9) + "0");
+        x.initial(0, "0&".repeat(9) + "1");
+        x.initial(1, "0&".repeat(9) + "0");
         Due.is("32 39 nodes", 4, x.combine(0, 1, 2, 1));
         Due.is("32 length", 41, x.print(2, -1, 0));
-        initial(x, 1, repeated("0&", 10) + "0");
+        x.initial(1, "0&".repeat(10) + "0");
         Due.is("32 41 nodes", FULL, x.combine(0, 1, 2, 0));
         Due.is("32 nothing changed", 41, x.print(2, -1, 0));
         x.create(2, 6, 1);
@@ -970,37 +922,37 @@ public final class PromisesTest {
     }
 
     private static void promise33And34Snapshot() {
-        AlternatingAutomata x = evenZerosThenOne();
+        Bench x = evenZerosThenOne();
         Due.is("34 nothing", NOTHING, x.restore());
         x.setWeight(0, 1, 3);
         Due.is("33 states", 6, x.save());
         x.create(0, 6, 3);
         x.create(2, 5, 1);
-        initial(x, 0, "5");
+        x.initial(0, "5");
         x.print(0, -1, 0);
-        word(x, "011");
-        initial(x, 2, "t");
-        initial(x, 1, "t");
+        x.word("011");
+        x.initial(2, "t");
+        x.initial(1, "t");
         x.findDifference(1, 2);
-        type(x, "0&");
+        x.type("0&");
         Due.is("34 states", 6, x.restore());
         Due.is("34 text stays", 3, x.append('2', 1));
         Due.is("34 text stays", 3, x.setInitial(0));
-        Due.is("34 printed text stays", "5", shownBefore(x));
+        Due.is("34 printed text stays", "5", x.shownBefore());
         Due.is("34 word stays", 3, x.clearWord());
-        Due.is("34 formula", "2|3", shown(x, 0, 2, 1));
+        Due.is("34 formula", "2|3", x.shown(0, 2, 1));
         Due.is("34 finals", 9, x.property(0, 2));
         Due.is("34 weight", 3, x.property(0, 4));
         Due.is("34 slot 2", 1, x.property(2, 0));
-        Due.is("34 slot 2", "f", shown(x, 2, -1, 0));
+        Due.is("34 slot 2", "f", x.shown(2, -1, 0));
         x.findCheapest(0);
         x.create(0, 2, 2);
         Due.is("34 snapshot is kept", 6, x.restore());
-        Due.is("34 found word stays", "1", foundWord(x));
+        Due.is("34 found word stays", "1", x.foundWord());
         Due.is("34 cost stays", 3, x.foundCost());
-        initial(x, 0, "1");
+        x.initial(0, "1");
         Due.is("34 changes do not reach the snapshot", 6, x.restore());
-        Due.is("34 initial", "0&2", shown(x, 0, -1, 0));
+        Due.is("34 initial", "0&2", x.shown(0, -1, 0));
         x.create(1, 6, 1);
         Due.is("33 replaces", 11, x.save());
         x.create(1, 2, 1);
@@ -1011,23 +963,23 @@ public final class PromisesTest {
     /** What a call leaves behind in the rows that calls share must not pile up within 512 calls. */
     private static void sameAnswersAgainAndAgain() {
         String deep = "0|(1|(2|(3|(4|(5|(0|(1|(2|3))))))))";
-        AlternatingAutomata x = new AlternatingAutomata();
+        Bench x = new Bench();
         x.create(0, 6, 1);
-        initial(x, 0, deep);
+        x.initial(0, deep);
         for (int i = 0; i < 400; i++) {
             Due.is("9 again and again", deep.length(), x.print(0, -1, 0));
         }
-        Due.is("9 after many prints", deep, shownBefore(x));
-        AlternatingAutomata y = new AlternatingAutomata();
+        Due.is("9 after many prints", deep, x.shownBefore());
+        Bench y = new Bench();
         y.create(0, 6, 1);
         for (int i = 0; i < 200; i++) {
             y.append('(', 3);
             Due.is("6 again and again", -103, y.setInitial(0));
         }
-        Due.is("6 after many errors", 19, initial(y, 0, deep));
-        AlternatingAutomata z = evenZerosThenOne();
+        Due.is("6 after many errors", 19, y.initial(0, deep));
+        Bench z = evenZerosThenOne();
         z.dualize(0, 1);
-        word(z, "001");
+        z.word("001");
         for (int i = 0; i < 60; i++) {
             Due.is("17 again and again", 3, z.rank(0, 0, 0));
             Due.is("26 again and again", 0, z.findDifference(0, 1));

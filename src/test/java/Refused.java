@@ -6,7 +6,8 @@ import java.util.function.Consumer;
  */
 final class Refused {
     private static final int PARTS = 7;
-    private static final String TEXT = "1|";
+    /** The text while the refused call is made. */
+    static final String TEXT = "1|";
 
     interface Call {
         long on(Bench bench);

@@ -7,7 +7,7 @@ import java.lang.annotation.Target;
 @Retention(RetentionPolicy.RUNTIME)
 @Target(ElementType.METHOD)
 @interface Says {
-    /** The number of the promise, or 0 for the part "Description". */
+    /** The number of the promise, or 0 for the parts "What it is" and "Description". */
     int promise();
 
     String text();

@@ -55,7 +55,7 @@ final class Sentences {
         return promise == 0 ? "Description" : "Promise " + promise;
     }
 
-    /** For the Description at 0 and for each promise at its number its sentences, or null without a document. */
+    /** At 0 what stands before the promises, and each promise at its number; or null without a document. */
     static List<List<String>> ofDocument() throws IOException {
         if (!Files.exists(DOCUMENT)) {
             return null;
@@ -66,7 +66,7 @@ final class Sentences {
         }
         for (String part : Files.readString(DOCUMENT).split("(?m)^## ")) {
             String title = part.lines().findFirst().orElse("");
-            if (title.equals("Description")) {
+            if (title.equals("Description") || title.equals("What it is")) {
                 result.get(0).addAll(sentencesIn(part));
             } else if (title.startsWith("Promise ")) {
                 result.get(Integer.parseInt(title.replaceAll("\\D*(\\d+):.*", "$1"))).addAll(sentencesIn(part));
