@@ -102,7 +102,8 @@ public final class DescriptionTest {
         }
     }
 
-    @Says(promise = 0, text = "The automaton that every slot holds at first has 1 state and 1 letter, no final states, "
+    @Says(promise = 0, text = "The automaton that every slot holds at first has 1 state and 1 letter, no final "
+        + "states, "
         + "the formula false as its initial formula and its transition formula, and weight 1.")
     static void atFirst() {
         int[] due = {1, 1, 0, 1, NONE, NONE};
@@ -195,7 +196,8 @@ public final class DescriptionTest {
         }
     }
 
-    @Says(promise = 0, text = "it satisfies a conjunction if it satisfies both parts, and a disjunction if it satisfies "
+    @Says(promise = 0, text = "it satisfies a conjunction if it satisfies both parts, and a disjunction if it "
+        + "satisfies "
         + "at least one part.")
     static void satisfiesBothOrOne() {
         Bench bench = large();
@@ -209,7 +211,8 @@ public final class DescriptionTest {
         }
     }
 
-    @Says(promise = 0, text = "A minimal model of a formula is a set that satisfies it while no proper subset of it does.")
+    @Says(promise = 0, text = "A minimal model of a formula is a set that satisfies it while no proper subset of it "
+        + "does.")
     static void minimalModels() {
         Bench bench = large();
         bench.initial(0, "t|0");
@@ -226,7 +229,8 @@ public final class DescriptionTest {
         Due.is("any two of three", 3, bench.model(0, -1, 0, -1));
     }
 
-    @Says(promise = 0, text = "Minimal models are ordered by the number of their states, then by their bit masks as numbers.")
+    @Says(promise = 0, text = "Minimal models are ordered by the number of their states, then by their bit masks as "
+        + "numbers.")
     static void orderOfModels() {
         Bench bench = large();
         bench.initial(0, "0&1&2|1&3|0&3|5|4");
@@ -280,7 +284,8 @@ public final class DescriptionTest {
         Due.is("10", 2, bench.acceptingStates(0, 0));
     }
 
-    @Says(promise = 0, text = "A word is accepted by the automaton if the initial formula is satisfied by the set of all "
+    @Says(promise = 0, text = "A word is accepted by the automaton if the initial formula is satisfied by the set of "
+        + "all "
         + "states from which the word is accepted.")
     static void acceptedByAutomaton() {
         Bench bench = large();
@@ -321,8 +326,10 @@ public final class DescriptionTest {
         Due.is("01 comes before 02", "01", bench.foundWord());
     }
 
-    @Says(promise = 0, text = "The game on a word of n letters has as positions all pairs (i, p) of a number i from 0 to n "
-        + "and a state p, and, for each such pair with i below n, all nodes of the transition formula of p for letter i of "
+    @Says(promise = 0, text = "The game on a word of n letters has as positions all pairs (i, p) of a number i from "
+        + "0 to n "
+        + "and a state p, and, for each such pair with i below n, all nodes of the transition formula of p for "
+        + "letter i of "
         + "the word, where letters are counted from 0.")
     static void positions() {
         Bench bench = new Bench();
@@ -365,7 +372,8 @@ public final class DescriptionTest {
         Due.is("not on the empty word", 0, game("f", "", 0).rank(0, 0, 0));
     }
 
-    @Says(promise = 0, text = "From a disjunction the automaton moves to one of its parts, from a conjunction its opponent does.")
+    @Says(promise = 0, text = "From a disjunction the automaton moves to one of its parts, from a conjunction its "
+        + "opponent does.")
     static void whoMoves() {
         Due.is("the automaton chooses true", 2, game("t|f", "0").rank(0, 0, 0));
         Due.is("the automaton chooses true", 2, game("f|t", "0").rank(0, 0, 0));
@@ -403,7 +411,8 @@ public final class DescriptionTest {
         Due.is("by a state that is not final", 10001, bench.rank(0, 0, 1));
     }
 
-    @Says(promise = 0, text = "The rank of a position from which one player can force a win is the least number of moves, "
+    @Says(promise = 0, text = "The rank of a position from which one player can force a win is the least number of "
+        + "moves, "
         + "made by both players, within which this player can force it;")
     static void leastNumberOfMoves() {
         Due.is("the automaton takes the quick part", 2, game("1|t", "000", 1).rank(0, 0, 0));
@@ -427,7 +436,8 @@ public final class DescriptionTest {
         Due.is("the opponent has won", 10000, bench.rank(0, 0, 2));
     }
 
-    @Says(promise = 0, text = "From a disjunction that is won by the automaton, the strategy moves to a part that is won by "
+    @Says(promise = 0, text = "From a disjunction that is won by the automaton, the strategy moves to a part that is "
+        + "won by "
         + "the automaton and that has the least rank of those, to the left one if both parts have the same.")
     static void strategyOfDisjunctions() {
         Due.is("the same rank", 2, game("1|2", "00", 1, 2).strategy(0, 0, 0));
@@ -454,7 +464,8 @@ public final class DescriptionTest {
         Due.is("all of them reached", 3, bench.existentialStates(0));
     }
 
-    @Says(promise = 0, text = "From a set it goes by a letter to any minimal model of the conjunction of the transition "
+    @Says(promise = 0, text = "From a set it goes by a letter to any minimal model of the conjunction of the "
+        + "transition "
         + "formulas of all states of the set for this letter;")
     static void existentialStep() {
         Bench bench = large();
@@ -522,7 +533,8 @@ public final class DescriptionTest {
         Due.is("only {0, 5}", 1, bench.reverseStates(0));
     }
 
-    @Says(promise = 0, text = "From a set S it goes by a letter to the set of all states whose transition formulas for this "
+    @Says(promise = 0, text = "From a set S it goes by a letter to the set of all states whose transition formulas "
+        + "for this "
         + "letter are satisfied by S.")
     static void reverseGoes() {
         Bench bench = large();
@@ -584,7 +596,8 @@ public final class DescriptionTest {
         Due.is("the last of 60 characters is wrong", -159, bench.setInitial(0));
     }
 
-    @Says(promise = 0, text = "formula: term { | term } term: factor { & factor } factor: t, or f, or a digit, or ( formula )")
+    @Says(promise = 0, text = "formula: term { | term } term: factor { & factor } factor: t, or f, or a digit, or ( "
+        + "formula )")
     static void grammar() {
         Bench bench = large();
         String[] texts = {"t", "f", "0", "(t)", "t|f", "t&f", "0|1&2|3", "0&1|2&3", "(0|1)&(2|3)", "((0))", "(0|1)|(2&3)"};
@@ -652,7 +665,8 @@ public final class DescriptionTest {
         Due.is("the first part of a conjunction", 10003, game("f&t&t", "0").rank(0, 0, 0));
     }
 
-    @Says(promise = 0, text = "The error offset of a text is the offset of the first character that cannot continue a "
+    @Says(promise = 0, text = "The error offset of a text is the offset of the first character that cannot continue "
+        + "a "
         + "formula, or the length of the text if it ends too early;")
     static void errorOffset() {
         Bench bench = large();
@@ -688,7 +702,8 @@ public final class DescriptionTest {
         Due.is("the character before 0", -100, bench.initial(0, "/"));
     }
 
-    @Says(promise = 0, text = "A formula is printed in the same form with a pair of parentheses around each part that is a "
+    @Says(promise = 0, text = "A formula is printed in the same form with a pair of parentheses around each part "
+        + "that is a "
         + "disjunction in a conjunction, and around each right part that is a conjunction in a conjunction or a "
         + "disjunction in a disjunction, and without other parentheses.")
     static void parentheses() {
@@ -710,7 +725,8 @@ public final class DescriptionTest {
         Due.is("deep", deep, bench.shown(0, -1, 0));
     }
 
-    @Says(promise = 0, text = "There is a word of at most 12 letters, which is empty at first, and a found word, which is "
+    @Says(promise = 0, text = "There is a word of at most 12 letters, which is empty at first, and a found word, "
+        + "which is "
         + "empty at first and has the cost 0.")
     static void wordAndFoundWord() {
         Bench bench = new Bench();
@@ -746,7 +762,8 @@ public final class DescriptionTest {
         Due.is("text", AlternatingAutomata.FULL, bench.append('t', 1));
     }
 
-    @Says(promise = 0, text = "- `MISMATCH = -4`: Two automata have different numbers of letters, or the word has a letter "
+    @Says(promise = 0, text = "- `MISMATCH = -4`: Two automata have different numbers of letters, or the word has a "
+        + "letter "
         + "that the automaton does not have.")
     static void constantMismatch() {
         Due.is("MISMATCH", -4, AlternatingAutomata.MISMATCH);

@@ -63,7 +63,8 @@ public final class EdgesOfPromises15To24Test {
 
     // Promise 15
 
-    @Says(promise = 15, text = "- `start`: the number of letters at the beginning of the word that do not belong to the suffix, "
+    @Says(promise = 15, text = "- `start`: the number of letters at the beginning of the word that do not belong to "
+        + "the suffix, "
         + "0 to the length of the word")
     static void acceptingStatesStart() {
         // A suffix of n letters is accepted from state n alone, and all longer ones are from no state.
@@ -193,8 +194,10 @@ public final class EdgesOfPromises15To24Test {
 
     // Promise 18
 
-    @Says(promise = 18, text = "Returns the states to which the strategy of the automaton leads in the game on the word: all "
-        + "states q such that a play from (start, state) in which the automaton follows the strategy can reach the position "
+    @Says(promise = 18, text = "Returns the states to which the strategy of the automaton leads in the game on the "
+        + "word: all "
+        + "states q such that a play from (start, state) in which the automaton follows the strategy can reach the "
+        + "position "
         + "(start + 1, q).")
     static void strategyStates() {
         Bench bench = staying(6);
@@ -206,6 +209,15 @@ public final class EdgesOfPromises15To24Test {
             bench.move(0, 5, 0, formulas[i]);
             Due.is(formulas[i], due[i], bench.strategy(0, 1, 5));
         }
+        // State 1 is won more quickly by letter 1 and lost by letter 0; the choice comes before letter 1 is read.
+        Bench later = staying(3);
+        later.move(0, 0, 0, "1|2");
+        later.move(0, 1, 0, "f");
+        later.move(0, 1, 1, "t");
+        later.move(0, 2, 0, "t");
+        later.move(0, 2, 1, "t|t");
+        later.word("01");
+        Due.is("ranks of the positions after the letter", 2, later.strategy(0, 0, 0));
     }
 
     @Says(promise = 18, text = "- `start`: the number of letters read, less than the length of the word")
@@ -275,7 +287,8 @@ public final class EdgesOfPromises15To24Test {
         }
     }
 
-    @Says(promise = 19, text = "BAD_ARGUMENT if there is no such slot or letter or set is not a set of states of the automaton.")
+    @Says(promise = 19, text = "BAD_ARGUMENT if there is no such slot or letter or set is not a set of states of the "
+        + "automaton.")
     static void reverseStepRefused() {
         for (int slot : NO_SLOTS) {
             Refused.due(BAD, bench -> bench.reverseStep(slot, 0, 0));
@@ -304,7 +317,8 @@ public final class EdgesOfPromises15To24Test {
         return bench;
     }
 
-    @Says(promise = 20, text = "Returns the number of sets that the reverse automaton can reach, the set in which it starts "
+    @Says(promise = 20, text = "Returns the number of sets that the reverse automaton can reach, the set in which it "
+        + "starts "
         + "included.")
     static void reverseStatesNumber() {
         Due.is("a new automaton: the empty set", 1, new Bench().reverseStates(0));
@@ -312,6 +326,9 @@ public final class EdgesOfPromises15To24Test {
         Bench away = new Bench();
         away.finals(0, 0);
         Due.is("{0} and the empty set", 2, away.reverseStates(0));
+        Bench fromEmpty = new Bench();
+        fromEmpty.move(0, 0, 0, "t");
+        Due.is("the empty set and {0}", 2, fromEmpty.reverseStates(0));
         Due.is("all sets but the empty one", 63, allSets("0|1").reverseStates(0));
         Bench all = allSets("(0|1)&2");
         all.finals(0, 1);
@@ -332,7 +349,8 @@ public final class EdgesOfPromises15To24Test {
 
     // Promise 21
 
-    @Says(promise = 21, text = "Returns the number of classes of sets that the reverse automaton can reach, where two sets are "
+    @Says(promise = 21, text = "Returns the number of classes of sets that the reverse automaton can reach, where "
+        + "two sets are "
         + "in the same class if the same words lead from both to an accepting set.")
     static void reverseClassesNumber() {
         Due.is("a new automaton", 1, new Bench().reverseClasses(0));
@@ -354,6 +372,12 @@ public final class EdgesOfPromises15To24Test {
             round.initial(0, initial[i]);
             Due.is(initial[i], due[i], round.reverseClasses(0));
         }
+        Bench toEmpty = new Bench();
+        toEmpty.initial(0, "t");
+        toEmpty.finals(0, 0);
+        Due.is("{0} and the empty set are both accepting", 1, toEmpty.reverseClasses(0));
+        toEmpty.initial(0, "0");
+        Due.is("only {0} is accepting", 2, toEmpty.reverseClasses(0));
         // Only sets that are reached count: {1} alone would be a class of its own.
         Bench reached = new Bench();
         reached.create(0, 2, 1);
@@ -373,7 +397,8 @@ public final class EdgesOfPromises15To24Test {
 
     // Promise 22
 
-    @Says(promise = 22, text = "Returns the number of sets that the existential automaton can reach, the sets in which it can "
+    @Says(promise = 22, text = "Returns the number of sets that the existential automaton can reach, the sets in "
+        + "which it can "
         + "start included.")
     static void existentialStatesNumber() {
         Due.is("it cannot even start", 0, new Bench().existentialStates(0));
@@ -411,7 +436,8 @@ public final class EdgesOfPromises15To24Test {
 
     // Promise 23
 
-    @Says(promise = 23, text = "Returns the number of sets in which the existential automaton can be after it has read the word.")
+    @Says(promise = 23, text = "Returns the number of sets in which the existential automaton can be after it has "
+        + "read the word.")
     static void existentialSetsNumber() {
         Bench bench = new Bench();
         Due.is("it cannot even start", 0, bench.existentialSets(0, 0));
@@ -467,7 +493,8 @@ public final class EdgesOfPromises15To24Test {
 
     // Promise 24
 
-    @Says(promise = 24, text = "Returns the states that matter: the smallest set of states that contains all states in the "
+    @Says(promise = 24, text = "Returns the states that matter: the smallest set of states that contains all states "
+        + "in the "
         + "initial formula and all states in the transition formulas of its states.")
     static void relevantStatesSet() {
         Bench bench = rotation(6);
@@ -483,6 +510,10 @@ public final class EdgesOfPromises15To24Test {
         Due.is("as far as formulas have states", 15, bench.relevantStates(0));
         bench.initial(0, "0&f");
         Due.is("a state in a formula that is never satisfied", 15, bench.relevantStates(0));
+        bench.initial(0, "1&5|t");
+        bench.move(0, 1, 0, "4|(t&3)");
+        bench.move(0, 4, 0, "f");
+        Due.is("all states of each formula", 58, bench.relevantStates(0));
         Bench backwards = new Bench();
         backwards.create(0, 6, 3);
         backwards.initial(0, "5");

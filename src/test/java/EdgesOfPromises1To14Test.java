@@ -420,7 +420,8 @@ public final class EdgesOfPromises1To14Test {
 
     // Promise 8
 
-    @Says(promise = 8, text = "- `what`: 0 for the number of states, 1 for the number of letters, 2 for the set of final "
+    @Says(promise = 8, text = "- `what`: 0 for the number of states, 1 for the number of letters, 2 for the set of "
+        + "final "
         + "states, 3 to 5 for the weight of letter 0 to 2, NONE if there is no such letter")
     static void propertyKinds() {
         for (int letters = 1; letters <= 3; letters++) {
@@ -596,7 +597,8 @@ public final class EdgesOfPromises1To14Test {
         }
     }
 
-    @Says(promise = 11, text = "BAD_ARGUMENT if there is no such slot or formula or set is not a set of states of the automaton.")
+    @Says(promise = 11, text = "BAD_ARGUMENT if there is no such slot or formula or set is not a set of states of "
+        + "the automaton.")
     static void isSatisfiedRefused() {
         for (int slot : NO_SLOTS) {
             Refused.due(BAD, bench -> bench.isSatisfied(slot, -1, 0, 0));
@@ -641,7 +643,8 @@ public final class EdgesOfPromises1To14Test {
         Due.is("1", NONE, bench.model(0, 0, 1, 0));
     }
 
-    @Says(promise = 12, text = "- `position`: the position from 0 in the order of minimal models, or -1 for their number")
+    @Says(promise = 12, text = "- `position`: the position from 0 in the order of minimal models, or -1 for their "
+        + "number")
     static void modelPosition() {
         Bench bench = large();
         // A state each of two of the three groups 01, 23 and 45.

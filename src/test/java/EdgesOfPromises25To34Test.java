@@ -64,7 +64,8 @@ public final class EdgesOfPromises25To34Test {
 
     // Promise 25
 
-    @Says(promise = 25, text = "Finds the accepted word whose cost, which is the sum of the weights of its letters, is least;")
+    @Says(promise = 25, text = "Finds the accepted word whose cost, which is the sum of the weights of its letters, "
+        + "is least;")
     static void cheapestLeastCost() {
         Bench bench = new Bench();
         accepting(bench, 0, 3, "2", "01", "10");
@@ -81,6 +82,24 @@ public final class EdgesOfPromises25To34Test {
         bench.setFinal(0, 0, 1);
         Due.is("the empty word costs nothing", 0, bench.findCheapest(0));
         Due.is("cost", 0, bench.foundCost());
+    }
+
+    @Says(promise = 25, text = "Finds the accepted word whose cost, which is the sum of the weights of its letters, "
+        + "is least;")
+    static void cheapestWithoutFinals() {
+        // No state is final, so all words are accepted through the empty set, which satisfies true.
+        Bench bench = new Bench();
+        bench.create(0, 2, 3);
+        bench.initial(0, "0");
+        bench.move(0, 0, 1, "1");
+        bench.move(0, 1, 0, "t");
+        Due.is("length", 2, bench.findCheapest(0));
+        Due.is("word", "10", bench.foundWord());
+        bench.create(1, 1, 3);
+        Due.is("difference", 2, bench.findDifference(0, 1));
+        Due.is("word", "10", bench.foundWord());
+        Due.is("contained", 0, bench.isContained(0, 1));
+        Due.is("count", 1, bench.countWords(0, 2));
     }
 
     @Says(promise = 25, text = "ties are broken by the order of words.")
@@ -174,7 +193,8 @@ public final class EdgesOfPromises25To34Test {
 
     // Promise 26
 
-    @Says(promise = 26, text = "Finds the first word, in the order of words, that is accepted by exactly one of two automata.")
+    @Says(promise = 26, text = "Finds the first word, in the order of words, that is accepted by exactly one of two "
+        + "automata.")
     static void differenceFirstWord() {
         Bench bench = new Bench();
         accepting(bench, 0, 3, "2", "00", "01", "11");
@@ -196,7 +216,8 @@ public final class EdgesOfPromises25To34Test {
         Due.is("not the cheapest, but the shortest", "2", bench.foundWord());
     }
 
-    @Says(promise = 26, text = "It becomes the found word, with the sum of the weights of its letters in the first automaton as "
+    @Says(promise = 26, text = "It becomes the found word, with the sum of the weights of its letters in the first "
+        + "automaton as "
         + "its cost.")
     static void differenceCost() {
         Bench bench = farAway();
@@ -323,7 +344,8 @@ public final class EdgesOfPromises25To34Test {
 
     // Promise 29
 
-    @Says(promise = 29, text = "Returns 1 if the language of the first one is contained in that of the second one, otherwise 0;")
+    @Says(promise = 29, text = "Returns 1 if the language of the first one is contained in that of the second one, "
+        + "otherwise 0;")
     static void containedOrNot() {
         Bench bench = new Bench();
         Due.is("the empty language in itself", 1, bench.isContained(0, 1));
@@ -404,7 +426,8 @@ public final class EdgesOfPromises25To34Test {
 
     // Promise 31
 
-    @Says(promise = 31, text = "Puts the dual of an automaton into a slot: true and false are exchanged in all formulas, "
+    @Says(promise = 31, text = "Puts the dual of an automaton into a slot: true and false are exchanged in all "
+        + "formulas, "
         + "conjunctions and disjunctions are, and so are final and other states.")
     static void dualFormulas() {
         Bench bench = new Bench();
@@ -418,8 +441,14 @@ public final class EdgesOfPromises25To34Test {
         Due.is("first transition formula", "0|1&2", bench.shown(1, 0, 0));
         Due.is("last transition formula", "(0|1)&2", bench.shown(1, 5, 2));
         Due.is("a formula that was never set", "t", bench.shown(1, 3, 1));
+        Due.is("it is satisfied by the empty set", 1, bench.isSatisfied(1, 3, 1, 0));
+        bench.initial(0, "t");
+        bench.dualize(0, 1);
+        Due.is("true becomes false", "f", bench.shown(1, -1, 0));
+        Due.is("it is not satisfied by the empty set", 0, bench.isSatisfied(1, -1, 0, 0));
+        Due.is("nor by all states", 0, bench.isSatisfied(1, -1, 0, 63));
         Due.is("final states", 30, bench.property(1, 2));
-        Due.is("the automaton itself stays", "t|f&0", bench.shown(0, -1, 0));
+        Due.is("the automaton itself stays", "t", bench.shown(0, -1, 0));
         Due.is("its final states stay", 33, bench.property(0, 2));
         Due.is("other slots stay", 1, bench.property(2, 0));
         // The target had more states and letters than the dual.
@@ -503,7 +532,8 @@ public final class EdgesOfPromises25To34Test {
 
     // Promise 32
 
-    @Says(promise = 32, text = "Its states are those of the first automaton, followed by those of the second one with higher "
+    @Says(promise = 32, text = "Its states are those of the first automaton, followed by those of the second one "
+        + "with higher "
         + "numbers.")
     static void combineStates() {
         for (int first = 1; first <= 5; first++) {
@@ -529,7 +559,8 @@ public final class EdgesOfPromises25To34Test {
         }
     }
 
-    @Says(promise = 32, text = "Its initial formula is the disjunction or conjunction of the initial formula of the first one "
+    @Says(promise = 32, text = "Its initial formula is the disjunction or conjunction of the initial formula of the "
+        + "first one "
         + "and that of the second one.")
     static void combineInitial() {
         Bench bench = new Bench();
@@ -549,6 +580,12 @@ public final class EdgesOfPromises25To34Test {
         bench.initial(1, "f");
         bench.combine(0, 1, 2, 0);
         Due.is("true or false", "t|f", bench.shown(2, -1, 0));
+        bench.initial(1, "t&0|f");
+        bench.move(1, 2, 0, "t");
+        bench.combine(0, 1, 2, 1);
+        Due.is("true and false have no higher numbers", "t&(t&2|f)", bench.shown(2, -1, 0));
+        Due.is("true in a transition formula", "t", bench.shown(2, 4, 0));
+        Due.is("it is satisfied by the empty set", 1, bench.isSatisfied(2, 4, 0, 0));
     }
 
     @Says(promise = 32, text = "Its weights are those of the first one.")
@@ -658,7 +695,8 @@ public final class EdgesOfPromises25To34Test {
         Due.is("the target has three", 5, Refused.furnished().combine(0, 2, 1, 0));
     }
 
-    @Says(promise = 32, text = "FULL if there would be more than 6 states or more than 40 nodes in the initial formula.")
+    @Says(promise = 32, text = "FULL if there would be more than 6 states or more than 40 nodes in the initial "
+        + "formula.")
     static void combineFull() {
         for (int first = 1; first <= 6; first++) {
             int one = first;

@@ -95,7 +95,8 @@ public final class ErrorsTest {
         }
     }
 
-    @Says(promise = 0, text = "A call that returns an error code changes nothing, except that setInitial and setTransition "
+    @Says(promise = 0, text = "A call that returns an error code changes nothing, except that setInitial and "
+        + "setTransition "
         + "empty the text.")
     static void errorsChangeNothing() throws ReflectiveOperationException {
         int count = 0;
@@ -205,7 +206,8 @@ public final class ErrorsTest {
         mismatched(MISMATCH, bench -> bench.existentialSets(0, 1));
     }
 
-    @Says(promise = 32, text = "FULL if there would be more than 6 states or more than 40 nodes in the initial formula.")
+    @Says(promise = 32, text = "FULL if there would be more than 6 states or more than 40 nodes in the initial "
+        + "formula.")
     static void combineErrorsInOrder() {
         // Slot 1 has six states and three letters, slots 0 and 2 have two letters.
         Refused.due(BAD, bench -> bench.combine(0, 1, 3, 0));
