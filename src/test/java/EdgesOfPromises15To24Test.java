@@ -329,6 +329,12 @@ public final class EdgesOfPromises15To24Test {
         Bench fromEmpty = new Bench();
         fromEmpty.move(0, 0, 0, "t");
         Due.is("the empty set and {0}", 2, fromEmpty.reverseStates(0));
+        // What the automaton before did by a letter that this one does not have must not matter.
+        Bench afterAnother = new Bench();
+        afterAnother.create(0, 1, 2);
+        afterAnother.move(0, 0, 1, "t");
+        Due.is("by the second letter", 2, afterAnother.reverseStates(0));
+        Due.is("an automaton with one letter after it", 1, afterAnother.reverseStates(1));
         Due.is("all sets but the empty one", 63, allSets("0|1").reverseStates(0));
         Bench all = allSets("(0|1)&2");
         all.finals(0, 1);
@@ -378,6 +384,16 @@ public final class EdgesOfPromises15To24Test {
         Due.is("{0} and the empty set are both accepting", 1, toEmpty.reverseClasses(0));
         toEmpty.initial(0, "0");
         Due.is("only {0} is accepting", 2, toEmpty.reverseClasses(0));
+        Bench afterAnother = new Bench();
+        afterAnother.create(0, 2, 2);
+        afterAnother.move(0, 1, 1, "1");
+        afterAnother.create(1, 2, 1);
+        afterAnother.move(1, 0, 0, "1");
+        afterAnother.move(1, 1, 0, "0");
+        afterAnother.initial(1, "0|1");
+        afterAnother.finals(1, 0);
+        Due.is("an automaton with two letters", 1, afterAnother.reverseClasses(0));
+        Due.is("one with one letter after it", 1, afterAnother.reverseClasses(1));
         // Only sets that are reached count: {1} alone would be a class of its own.
         Bench reached = new Bench();
         reached.create(0, 2, 1);

@@ -693,6 +693,9 @@ public final class EdgesOfPromises1To14Test {
             Due.is("position " + position, NONE, bench.model(0, -1, 0, position));
         }
         Due.is("false has not even one", NONE, bench.model(0, 0, 0, 0));
+        bench.initial(0, "t");
+        Due.is("true has the empty set", 0, bench.model(0, -1, 0, 0));
+        Due.is("true has no other one", NONE, bench.model(0, -1, 0, 1));
     }
 
     // Promise 13

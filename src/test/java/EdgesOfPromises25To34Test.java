@@ -125,6 +125,27 @@ public final class EdgesOfPromises25To34Test {
         Due.is("one letter", "1", bench.foundWord());
     }
 
+    @Says(promise = 25, text = "NONE if the language is empty, and then the found word stays.")
+    static void cheapestNoneAfterAnother() {
+        // What the automaton before accepted by a letter that this one does not have must not matter.
+        Bench bench = new Bench();
+        bench.create(0, 2, 3);
+        bench.initial(0, "1");
+        bench.move(0, 1, 1, "0");
+        bench.move(0, 1, 2, "0");
+        bench.finals(0, 0);
+        bench.create(1, 2, 1);
+        bench.initial(1, "1");
+        bench.finals(1, 0);
+        bench.create(2, 1, 1);
+        Due.is("by the second letter", 1, bench.findCheapest(0));
+        Due.is("an automaton with one letter after it", NONE, bench.findCheapest(1));
+        Due.is("no difference to the empty language", NONE, bench.findDifference(1, 2));
+        Due.is("contained in the empty language", 1, bench.isContained(1, 2));
+        Due.is("no words", 0, bench.countWords(1, 1));
+        Due.is("the found word stays", "1", bench.foundWord());
+    }
+
     @Says(promise = 25, text = "It becomes the found word.")
     static void cheapestBecomesFound() {
         Bench bench = farAway();
@@ -508,6 +529,17 @@ public final class EdgesOfPromises25To34Test {
             Due.is("and back", 2, bench.dualize(slot, slot));
             Due.is("initial formula", "0&1|t", bench.shown(slot, -1, 0));
             Due.is("satisfied by none", 1, bench.isSatisfied(slot, -1, 0, 0));
+        }
+        for (int states = 1; states <= 6; states++) {
+            for (int letters = 1; letters <= 3; letters++) {
+                Bench bench = new Bench();
+                bench.create(0, states, letters);
+                bench.initial(0, "0&f");
+                bench.moves(0, states - 1, letters, "0|t");
+                bench.dualize(0, 0);
+                Due.is("initial formula", "0|t", bench.shown(0, -1, 0));
+                Due.is("transition formula", "0&f", bench.shown(0, states - 1, letters - 1));
+            }
         }
     }
 
