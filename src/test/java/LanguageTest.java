@@ -1,18 +1,13 @@
-import java.io.IOException;
 import java.lang.management.ManagementFactory;
 import java.lang.reflect.Constructor;
 import java.lang.reflect.Field;
 import java.lang.reflect.Method;
 import java.lang.reflect.Modifier;
-import java.nio.file.Files;
-import java.nio.file.Path;
 import java.util.List;
 import java.util.Set;
 import java.util.TreeSet;
-import java.util.regex.Matcher;
-import java.util.regex.Pattern;
 
-/** The face of the class, what LANGUAGE.md rules out of its source, and the objects that its calls make. */
+/** The face of the class as it is compiled, and the objects that its calls make; SourceRulesTest reads its source. */
 public final class LanguageTest {
     private static final String FACE = "create(int,int,int)int setFinal(int,int,int)int setWeight(int,int,int)int "
         + "append(int,int)int setInitial(int)int setTransition(int,int,int)int property(int,int)int "
@@ -22,18 +17,12 @@ public final class LanguageTest {
         + "existentialStates(int)int existentialSets(int,int)int relevantStates(int)int findCheapest(int)int "
         + "findDifference(int,int)int foundLetter(int)int foundCost()int isContained(int,int)int "
         + "countWords(int,int)long dualize(int,int)int combine(int,int,int,int)int save()int restore()int";
-    private static final String[] FORBIDDEN = {"\\bthrow\\b", "\\bthrows\\b", "\\btry\\b", "\\bcatch\\b",
-        "\\bsynchronized\\b", "\\bassert\\b", "->", "::", "Exact\\b", "static \\{", "\\bthread\\b", "\\bnative\\b",
-        "\\bSystem\\.(?!arraycopy)", "\\bRandom\\b", "\\bThread\\b", "\\bpackage\\b", "\\bhashCode\\b",
-        "\\btoString\\b", "\\bwhile \\(true\\)", "\\bfor \\(;;\\)"};
 
     private LanguageTest() {
     }
 
-    public static void main(String[] args) throws IOException {
+    public static void main(String[] args) {
         lookAtFace();
-        lookAtNames();
-        lookAtSource();
         countObjects();
         Due.end();
     }
@@ -65,66 +54,6 @@ public final class LanguageTest {
             }
         }
         Due.is("constants", "[BAD_ARGUMENT, FULL, MISMATCH, NONE, NOTHING]", constants.toString());
-    }
-
-    private static void lookAtNames() {
-        Set<String> names = new TreeSet<>();
-        for (Method method : AlternatingAutomata.class.getMethods()) {
-            names.add(method.getName());
-        }
-        lookAtClass(AlternatingAutomata.class, names, true);
-        Class<?>[] inside = AlternatingAutomata.class.getDeclaredClasses();
-        Due.is("at most twelve classes", 1, inside.length < 12 ? 1 : 0);
-        for (Class<?> type : inside) {
-            Due.is(type + " is static", 1, Modifier.isStatic(type.getModifiers()) ? 1 : 0);
-            lookAtClass(type, names, false);
-        }
-    }
-
-    private static void lookAtClass(Class<?> type, Set<String> names, boolean isFace) {
-        for (Method method : type.getDeclaredMethods()) {
-            boolean isPublic = Modifier.isPublic(method.getModifiers());
-            Due.is(method + " bears no public name", 0, names.contains(method.getName()) && !isPublic ? 1 : 0);
-            Due.is(method + " is not public inside", 0, isPublic && !isFace ? 1 : 0);
-            Due.is(method + " takes at most seven", 1, method.getParameterCount() <= 7 ? 1 : 0);
-        }
-        int fields = 0;
-        for (Field field : type.getDeclaredFields()) {
-            boolean isStatic = Modifier.isStatic(field.getModifiers());
-            Due.is(field + " is final", 0, isStatic && !Modifier.isFinal(field.getModifiers()) ? 1 : 0);
-            fields += isStatic ? 0 : 1;
-        }
-        Due.is(type + " has at most twenty fields", 1, fields <= 20 ? 1 : 0);
-    }
-
-    private static void lookAtSource() throws IOException {
-        String source = Files.readString(Path.of("src/main/java/AlternatingAutomata.java"));
-        String code = source.replaceAll("(?s)/\\*.*?\\*/", "").replaceAll("//[^\n]*", "");
-        for (String pattern : FORBIDDEN) {
-            Matcher matcher = Pattern.compile(pattern).matcher(code);
-            Due.is("source has " + pattern, 0, matcher.find() ? 1 : 0);
-        }
-        for (String line : code.split("\n")) {
-            if (line.startsWith("import")) {
-                Due.is("import", "import java.util.Arrays;", line);
-            }
-        }
-        lookAtLengths(source.split("\n"));
-    }
-
-    /** By indentation: a method opens with a line that ends in ") {" and closes at the same depth. */
-    private static void lookAtLengths(String[] lines) {
-        Pattern head = Pattern.compile("^( {4}| {8})[a-zA-Z].*\\) \\{$");
-        for (int i = 0; i < lines.length; i++) {
-            Matcher matcher = head.matcher(lines[i]);
-            if (matcher.find() && !lines[i].trim().matches("(if|for|while|switch).*")) {
-                int end = i;
-                while (end < lines.length && !lines[end].equals(matcher.group(1) + "}")) {
-                    end++;
-                }
-                Due.is(lines[i].trim() + " is short", 1, end - i < 60 ? 1 : 0);
-            }
-        }
     }
 
     private static void countObjects() {
