@@ -1,11 +1,16 @@
+import java.io.IOException;
 import java.lang.management.ManagementFactory;
 import java.lang.reflect.Constructor;
 import java.lang.reflect.Field;
 import java.lang.reflect.Method;
 import java.lang.reflect.Modifier;
+import java.nio.file.Files;
+import java.nio.file.Path;
 import java.util.List;
 import java.util.Set;
 import java.util.TreeSet;
+import java.util.regex.Matcher;
+import java.util.regex.Pattern;
 
 /** The face of the class as it is compiled, and the objects that its calls make; SourceRulesTest reads its source. */
 public final class LanguageTest {
@@ -17,12 +22,17 @@ public final class LanguageTest {
         + "existentialStates(int)int existentialSets(int,int)int relevantStates(int)int findCheapest(int)int "
         + "findDifference(int,int)int foundLetter(int)int foundCost()int isContained(int,int)int "
         + "countWords(int,int)long dualize(int,int)int combine(int,int,int,int)int save()int restore()int";
+    private static final Path DOCUMENT = Path.of("../shared/DOC.md");
+    private static final Pattern METHOD = Pattern.compile(" {4}public (int|long) (\\w+)(\\(.*\\));");
+    private static final Pattern CONSTANT = Pattern.compile(" {4}public static final int (\\w+) = (-?\\d+);");
+    private static final int PUBLIC_CONSTANT = Modifier.PUBLIC | Modifier.STATIC | Modifier.FINAL;
 
     private LanguageTest() {
     }
 
-    public static void main(String[] args) {
+    public static void main(String[] args) throws IOException, ReflectiveOperationException {
         lookAtFace();
+        lookAtDocument();
         countObjects();
         Due.end();
     }
@@ -54,6 +64,29 @@ public final class LanguageTest {
             }
         }
         Due.is("constants", "[BAD_ARGUMENT, FULL, MISMATCH, NONE, NOTHING]", constants.toString());
+    }
+
+    /** The document's public face, if the document is here: the same methods, and the constants with their values. */
+    private static void lookAtDocument() throws IOException, ReflectiveOperationException {
+        if (!Files.exists(DOCUMENT)) {
+            System.out.println("the document was not found: its face is not compared");
+            return;
+        }
+        Set<String> methods = new TreeSet<>();
+        for (String line : Files.readString(DOCUMENT).replaceAll("(?s).*```java\n(.*?)```.*", "$1").split("\n")) {
+            Matcher method = METHOD.matcher(line);
+            Matcher constant = CONSTANT.matcher(line);
+            if (method.matches()) {
+                methods.add(method.group(2) + method.group(3).replaceAll(" \\w+(?=[,)])", "").replace(" ", "") + method.group(1));
+            } else if (constant.matches()) {
+                Field field = AlternatingAutomata.class.getField(constant.group(1));
+                Due.is(line.trim(), Long.parseLong(constant.group(2)), field.getInt(null));
+                Due.is(line.trim(), PUBLIC_CONSTANT, field.getModifiers());
+            } else {
+                Due.is(line + " is understood", 1, line.matches("public final class .*|    public \\w+\\(\\);|}") ? 1 : 0);
+            }
+        }
+        Due.is("methods of the document", new TreeSet<>(List.of(FACE.split(" "))).toString(), methods.toString());
     }
 
     private static void countObjects() {
